@@ -760,10 +760,10 @@ public final class LoopReducer {
         }
 
         private void putLater(int slot, int source) {
-            clear(slot);
             for (int i = 0; i <= TOP; i++) {
                 int at = slot * POLYS + i;
-                for (int j = i; j <= TOP; j++) {
+                polys.putSum(at, source * POLYS + i, ZERO_POLY, 1);
+                for (int j = i + 1; j <= TOP; j++) {
                     polys.putSum(at, at, source * POLYS + j, (j - i) % 2 == 0 ? 1 : -1);
                 }
             }

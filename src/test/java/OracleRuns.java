@@ -62,9 +62,25 @@ public final class OracleRuns {
         }
 
         void play() {
+            if (chance.nextInt(3) != 0) {
+                for (int number : new int[] {0, 1, 2, model.m / 2}) {
+                    due("number(" + number + ")", reducer.number(number), model.number(number));
+                }
+                for (int i = 0; i < inputsWanted; i++) {
+                    due("input()", reducer.input(), model.input());
+                }
+            }
             int steps = 8 + chance.nextInt(90);
             for (int step = 0; step < steps && wrong == 0; step++) {
-                change();
+                if (chance.nextInt(8) == 0) {
+                    makeLoop();
+                } else if (chance.nextInt(8) == 0) {
+                    makeProduct();
+                } else if (chance.nextInt(12) == 0) {
+                    makeLater();
+                } else {
+                    change();
+                }
                 if (chance.nextInt(3) == 0) {
                     ask();
                 }
@@ -83,6 +99,58 @@ public final class OracleRuns {
                 return Math.max(0, size - 1 - chance.nextInt(4));
             }
             return chance.nextInt(size);
+        }
+
+        private int someOfKind(int kind) {
+            for (int tries = 0; tries < 20; tries++) {
+                int name = someName();
+                if (model.form(name, 0) == kind) {
+                    return name;
+                }
+            }
+            return someName();
+        }
+
+        private int opBoth(int kind, int a, int b) {
+            int made = model.op(kind, a, b);
+            due("op(" + kind + ", " + a + ", " + b + ")", reducer.op(kind, a, b), made);
+            return made;
+        }
+
+        private int carriedBoth() {
+            int start = someOf(chance.nextInt(2));
+            int made = model.carried(start);
+            due("carried(" + start + ")", reducer.carried(start), made);
+            return made;
+        }
+
+        private void nextBoth(int name, int next) {
+            due("next(" + name + ", " + next + ")", bit(reducer.next(name, next)), bit(model.next(name, next)));
+        }
+
+        /** A carried one whose next is made of it and others in a few steps. */
+        private void makeLoop() {
+            int carried = carriedBoth();
+            int made = carried;
+            int steps = 1 + chance.nextInt(4);
+            for (int step = 0; step < steps; step++) {
+                boolean scaled = chance.nextInt(3) == 0;
+                int other = scaled ? someOf(0) : chance.nextInt(5) == 0 ? carried : someOfKind(chance.nextInt(2));
+                boolean first = chance.nextBoolean();
+                made = opBoth(scaled ? 2 : chance.nextInt(2), first ? made : other, first ? other : made);
+            }
+            nextBoth(carried, made);
+        }
+
+        private void makeProduct() {
+            int made = opBoth(2, someOfKind(1), someOfKind(chance.nextInt(2)));
+            if (chance.nextInt(3) != 0) {
+                due("show(" + made + ")", bit(reducer.show(made, true)), bit(model.show(made, true)));
+            }
+        }
+
+        private void makeLater() {
+            nextBoth(carriedBoth(), someOfKind(chance.nextInt(3)));
         }
 
         private int someOf(int type) {

@@ -23,6 +23,7 @@ public final class PromiseRuns {
         cycles();
         kindsAndDelays();
         turningCycles();
+        higherDegrees();
         productsWithoutForm();
         rounds();
         alikeForms();
@@ -377,6 +378,29 @@ public final class PromiseRuns {
         kindDegreeDelay("less itself", z, carried, "4 -2 -2");
     }
 
+    private static void higherDegrees() {
+        LoopReducer w = counting(8);
+        int cube = w.op(PRODUCT, w.op(PRODUCT, 2, 2), 2);
+        int late = w.carried(1);
+        w.next(late, cube);
+        // (n - 1)(n - 1)(n - 1) in turns 1, 2, 3, 11
+        dueRow("13: later of n n n", "2 3 1 -1 0 1 8 232", w.form(late, 0), w.form(late, 1), w.form(late, 2),
+                w.told(late, 0, 0, 0, 0), w.told(late, 1, 0, 0, 0), w.told(late, 2, 0, 0, 0), w.told(late, 3, 0, 0, 0),
+                w.told(late, 11, 0, 0, 0));
+        int gone = w.carried(1);
+        int thrice = w.op(PRODUCT, w.number(3), w.op(SUM, w.op(PRODUCT, gone, 0), cube));
+        w.next(gone, thrice);
+        // 3 n n n and, a turn later, the same
+        dueRow("13: 0 times itself and 3 n n n", "2 3 1 2 3 1 3 24 24 81", w.form(gone, 0), w.form(gone, 1),
+                w.form(gone, 2), w.form(thrice, 0), w.form(thrice, 1), w.form(thrice, 2), w.told(thrice, 1, 0, 0, 0),
+                w.told(thrice, 2, 0, 0, 0), w.told(gone, 3, 0, 0, 0), w.told(gone, 4, 0, 0, 0));
+        int once = w.carried(1);
+        w.next(once, w.op(PRODUCT, w.op(SUM, w.op(PRODUCT, once, w.number(129)), 2), w.number(129)));
+        // 129 times 129 is 1 modulo 256; once grows by 129 n
+        dueRow("13: 129 (129 times itself and n)", "1 2 0 1 1 130 132", w.form(once, 0), w.form(once, 1), w.form(once, 2),
+                w.told(once, 0, 0, 0, 0), w.told(once, 1, 0, 0, 0), w.told(once, 2, 0, 0, 0), w.told(once, 3, 0, 0, 0));
+    }
+
     private static void productsWithoutForm() {
         LoopReducer x = counting(8);
         int square = x.op(PRODUCT, 2, 2);
@@ -407,6 +431,13 @@ public final class PromiseRuns {
         kindDegreeDelay("a a a b b b b", y, y.op(PRODUCT, ab, b), "4 -2 -2");
         int big = y.op(PRODUCT, y.number(128), ab);
         kindDegreeDelay("128 a a a b b b times 2 b", y, y.op(PRODUCT, big, y.op(SUM, b, b)), "4 -2 -2");
+        int c = y.input();
+        int c3 = y.op(PRODUCT, c, y.op(PRODUCT, c, c));
+        int c6 = y.op(PRODUCT, c3, c3);
+        kindDegreeDelay("c c c c c c", y, c6, "0 0 0");
+        dueRow("14: c c c c c c", "1 0 0 6 1 217", y.poly(c6, 0, -1, 0), y.poly(c6, 0, 0, 0), y.poly(c6, 0, 0, 1),
+                y.poly(c6, 0, 0, 2), y.poly(c6, 0, 0, 3), y.value(c6, 0, 2, 2, 3));
+        kindDegreeDelay("c c c c c c c", y, y.op(PRODUCT, c6, c), "4 -2 -2");
         kindDegreeDelay("it less itself times b", y, y.op(PRODUCT, y.op(DIFFERENCE, ab, ab), b), "0 0 0");
     }
 
@@ -450,6 +481,15 @@ public final class PromiseRuns {
         int number = x.number(257);
         dueRow("13: the least alike", "5 5 5 8 8 1 4 -1", x.form(one, 4), x.form(other, 4), x.form(sum, 4),
                 x.form(late, 4), x.form(lateAgain, 4), x.form(number, 4), x.form(a, 4), x.form(30, 4));
+        int cube = x.op(PRODUCT, 2, x.op(PRODUCT, 2, 2));
+        int second = x.carried(0);
+        x.next(second, x.op(SUM, second, 2));
+        int third = x.carried(0);
+        x.next(third, x.op(SUM, third, second));
+        int cubeAndThird = x.op(SUM, cube, third);
+        dueRow("13: unlike in c3 alone", "6 7 6 6 " + cubeAndThird, x.value(cubeAndThird, 2, 0, 0, 0),
+                x.value(cubeAndThird, 3, 0, 0, 0), x.value(cube, 2, 0, 0, 0), x.value(cube, 3, 0, 0, 0),
+                x.form(cubeAndThird, 4));
         int exact = x.carried(x.number(0));
         x.next(exact, 0);
         due("13: the least alike of a carried one", x.form(exact, 4), 0);
@@ -581,6 +621,16 @@ public final class PromiseRuns {
         x.show(cube, false);
         dueRow("18: needed no more", "1 1 -2 " + oddAgain + " -1", x.reduced(1), x.cell(0, 0), x.cell(0, 1), x.cell(0, 2),
                 x.cell(1, 0));
+        LoopReducer z = counting(8);
+        int twiceAndOne = z.op(PRODUCT, z.op(SUM, z.op(SUM, 2, 2), 1), 1);
+        int squared = z.op(PRODUCT, 2, 2);
+        z.show(twiceAndOne, true);
+        z.show(squared, true);
+        dueRow("18: what is behind was there", "2 0 1 -2 " + twiceAndOne + " " + squared, z.reduced(1), z.cell(1, 1),
+                z.cell(0, 0), z.cell(0, 1), z.cell(0, 2), z.cell(1, 2));
+        z.test(0, 2, z.number(4));
+        dueRow("18: by turns", "4 1 0 3 1 5 4 7 9", z.runReduced(0, 0, 0), z.seen(0), z.seen(1), z.seen(2), z.seen(3),
+                z.seen(4), z.seen(5), z.seen(6), z.seen(7));
         LoopReducer y = counting(8);
         int stay = y.op(PRODUCT, 2, 1);
         int first = y.op(PRODUCT, stay, 2);
