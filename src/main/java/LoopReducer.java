@@ -1182,56 +1182,67 @@ public final class LoopReducer {
         }
 
         private int goPlainly() {
-            seenAmount = 0;
-            for (int turn = 0; turn < MOST_TURNS; turn++) {
-                System.arraycopy(now, 0, before, 0, MOST_NAMES);
-                for (int name = 0; name < names.size; name++) {
-                    if (names.type[name] == CARRIED) {
-                        now[name] = carriedInto(name, turn);
-                    }
-                }
-                for (int name = 0; name < names.size; name++) {
-                    if (names.isMade(name)) {
-                        now[name] = names.reckon(name, now);
-                    } else if (names.type[name] != CARRIED) {
-                        now[name] = numberOf(name);
-                    }
-                }
-                if (!testHolds()) {
-                    return turn;
-                }
-                see();
-            }
-            return ELSE;
-        }
-
-        private int carriedInto(int carrier, int turn) {
-            return turn == 0 ? startOf(carrier) : before[names.second[carrier]];
+            fillGiven();
+            return go(false);
         }
 
         private int goReduced() {
-            seenAmount = 0;
             fillSteady();
             fillCells();
+            return go(true);
+        }
+
+        private int go(boolean byCells) {
+            seenAmount = 0;
             for (int turn = 0; turn < MOST_TURNS; turn++) {
                 System.arraycopy(now, 0, before, 0, MOST_NAMES);
-                for (int name = 0; name < names.size; name++) {
-                    if (isReckoned(name) && names.type[name] == CARRIED) {
-                        now[name] = carriedInto(name, turn);
-                    }
-                }
-                for (int name = 0; name < names.size; name++) {
-                    if (isReckoned(name) && names.isMade(name)) {
-                        now[name] = plan.isOfCells(name) ? cellNow[plan.cellOf[name]] : names.reckon(name, now);
-                    }
+                carryInto(turn, byCells);
+                if (byCells) {
+                    reckonNeeded();
+                } else {
+                    reckonAll();
                 }
                 if (!testHolds()) {
                     return turn;
                 }
                 see();
-                stepCells();
+                if (byCells) {
+                    stepCells();
+                }
             }
             return ELSE;
+        }
+
+        private void carryInto(int turn, boolean neededAlone) {
+            for (int name = 0; name < names.size; name++) {
+                if (names.type[name] == CARRIED && (!neededAlone || isReckoned(name))) {
+                    now[name] = turn == 0 ? startOf(name) : before[names.second[name]];
+                }
+            }
+        }
+
+        private void reckonAll() {
+            for (int name = 0; name < names.size; name++) {
+                if (names.isMade(name)) {
+                    now[name] = names.reckon(name, now);
+                }
+            }
+        }
+
+        private void reckonNeeded() {
+            for (int name = 0; name < names.size; name++) {
+                if (names.isMade(name) && isReckoned(name)) {
+                    now[name] = plan.isOfCells(name) ? cellNow[plan.cellOf[name]] : names.reckon(name, now);
+                }
+            }
+        }
+
+        private void fillGiven() {
+            for (int name = 0; name < names.size; name++) {
+                if (names.type[name] == NUMBER || names.type[name] == INPUT) {
+                    now[name] = numberOf(name);
+                }
+            }
         }
 
         private boolean isReckoned(int name) {

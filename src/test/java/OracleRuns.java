@@ -10,7 +10,8 @@ import java.util.TreeMap;
 
 /**
  * Chance runs, the same ones each time, against a plain model of the document that is written another way:
- * FORMS by what they tell in four TURNS, HANGS ON by walking, TEST AHEAD by trying each TURN.
+ * FORMS by what they tell in four TURNS, HANGS ON by walking, TEST AHEAD by trying each TURN. An argument tells how
+ * many runs instead.
  */
 public final class OracleRuns {
     private static final int RUNS = 4000;
@@ -18,7 +19,8 @@ public final class OracleRuns {
     private static final int[] kindsMet = new int[5];
 
     public static void main(String[] args) {
-        for (int run = 0; run < RUNS && wrong < 20; run++) {
+        int runs = args.length > 0 ? Integer.parseInt(args[0]) : RUNS;
+        for (int run = 0; run < runs && wrong < 20; run++) {
             new Play(run).play();
         }
         for (int kind = 0; kind < kindsMet.length; kind++) {
