@@ -229,11 +229,17 @@ public final class OracleRuns {
             }
         }
 
+        /** In either order, by other numbers, so that neither can live on what the other one left. */
         private void runBoth(int a, int b, int c) {
-            String given = "(" + a + ", " + b + ", " + c + ")";
-            due("run" + given, reducer.run(a, b, c), model.run(a, b, c));
-            compareSeen();
-            due("runReduced" + given, reducer.runReduced(a, b, c), model.run(a, b, c));
+            boolean reducedFirst = chance.nextBoolean();
+            runOne(reducedFirst, a, b, c);
+            runOne(!reducedFirst, c, a, b);
+            runOne(chance.nextBoolean(), b, c, a);
+        }
+
+        private void runOne(boolean reduced, int a, int b, int c) {
+            int got = reduced ? reducer.runReduced(a, b, c) : reducer.run(a, b, c);
+            due((reduced ? "runReduced(" : "run(") + a + ", " + b + ", " + c + ")", got, model.run(a, b, c));
             compareSeen();
         }
 

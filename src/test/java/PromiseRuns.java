@@ -708,6 +708,16 @@ public final class PromiseRuns {
         }
         due("21: n n in turn 10", x.seen(20), 100);
         dueRow("21: another run", "3 6", x.runReduced(3, 1, 0), x.seen(-1));
+        LoopReducer y = new LoopReducer(8);
+        y.input();
+        y.carried(y.number(2));
+        y.next(2, y.op(DIFFERENCE, 2, y.number(-1)));
+        y.show(0, true);
+        y.show(y.op(PRODUCT, 2, 0), true);
+        y.test(0, 2, 0);
+        dueRow("21: ahead of any plain one", "3 6 5 10 5 15 5 20", y.runReduced(5, 0, 0), y.seen(-1), y.seen(0), y.seen(1),
+                y.seen(2), y.seen(3), y.seen(4), y.seen(5));
+        dueRow("21: by other numbers", "1 2 3 6", y.runReduced(3, 0, 0), y.seen(-1), y.seen(0), y.seen(1));
     }
 
     private static void seen() {
