@@ -14,6 +14,7 @@ public final class EdgesOfForms {
         exponentsTogether();
         numbersThatAreNotZero();
         risingCodes();
+        fullPolys();
         whatFormsTell();
         fromItsDelayOn();
         degrees();
@@ -126,6 +127,39 @@ public final class EdgesOfForms {
                 }
             }
         }
+    }
+
+    /** POLYS that have all the 84 MONOMIALS side by side, so that none may reach into the next one. */
+    private static void fullPolys() {
+        sheet.sentence("Terms", "A POLY: a sum of MONOMIALS");
+        LoopReducer x = powersOfTurns(16);
+        int a = x.input();
+        int b = x.input();
+        int c = x.input();
+        int one = x.op(SUM, x.op(SUM, a, b), x.op(SUM, c, 1));
+        int third = x.op(PRODUCT, x.op(PRODUCT, one, one), one);
+        int sixth = x.op(PRODUCT, third, third);
+        int grows = x.op(SUM, x.op(PRODUCT, sixth, 5), sixth);
+        int fewBehind = x.op(SUM, sixth, 2);
+        sheet.row("how many", "84 84 84 84", x.poly(grows, 0, NONE, 0), x.poly(grows, 1, NONE, 0), x.poly(grows, 2, NONE, 0),
+                x.poly(grows, 3, NONE, 0));
+        sheet.row("84 and 1 behind them", "84 1 -1 -1", x.poly(fewBehind, 0, NONE, 0), x.poly(fewBehind, 1, NONE, 0),
+                x.poly(fewBehind, 0, 84, 3), x.poly(fewBehind, 1, 1, 3));
+        sheet.row("by numbers 0", "1 1 6 6", x.value(grows, 0, 0, 0, 0), x.value(grows, 1, 0, 0, 0), x.value(grows, 2, 0, 0, 0),
+                x.value(grows, 3, 0, 0, 0));
+        sheet.row("by numbers 1, 2, -1", "729 1 729", x.value(fewBehind, 0, 1, 2, -1), x.value(fewBehind, 1, 1, 2, -1),
+                x.value(sixth, 0, 1, 2, -1));
+        int thrice = x.op(PRODUCT, x.number(3), fewBehind);
+        sheet.row("three times", "84 1 3 3 2187 2196", x.poly(thrice, 0, NONE, 0), x.poly(thrice, 1, NONE, 0),
+                x.poly(thrice, 0, 0, 3), x.poly(thrice, 0, 83, 3), x.told(thrice, 0, 1, 2, -1), x.told(thrice, 3, 1, 2, -1));
+        sheet.wild("six more exponents", x, x.op(PRODUCT, fewBehind, c));
+        int late = Sheet.later(x, 1, grows);
+        // ((n - 1)(n - 1)(n - 1) + 1) times that is 0, 1, 0, 6 times that
+        sheet.row("LATER", "0 84 0 84 0 729", x.poly(late, 0, NONE, 0), x.poly(late, 1, NONE, 0), x.poly(late, 2, NONE, 0),
+                x.poly(late, 3, NONE, 0), x.value(late, 0, 1, 2, -1), x.told(late, 1, 1, 2, -1));
+        int again = x.op(SUM, x.op(DIFFERENCE, grows, grows), fewBehind);
+        sheet.row("the same again", Sheet.row(fewBehind, 84, 1), x.form(again, 4), x.poly(again, 0, NONE, 0),
+                x.poly(again, 1, NONE, 0));
     }
 
     /** NAMES: 2: n, 4: n n, 5: n n n. */
@@ -432,6 +466,14 @@ public final class EdgesOfForms {
         sheet.wild("11 (3 y + 3), which HANGS ON it", x, again);
         x.next(y, x.op(PRODUCT, x.number(17), y));
         sheet.form("17 y, which is y modulo 16", x, y, "0 0 0");
+        LoopReducer w = powersOfTurns(8);
+        int seven = w.number(7);
+        int z = w.carried(0);
+        int gone = w.op(PRODUCT, z, 0);
+        int scaled = w.op(PRODUCT, w.op(SUM, gone, 5), seven);
+        w.next(z, scaled);
+        sheet.values("7 n n n, of the CYCLE", w, scaled, "0 7 42 42");
+        sheet.values("7 n n n a TURN later", w, z, "249 7 0 42");
     }
 
     private static void addedUp() {
@@ -706,6 +748,7 @@ public final class EdgesOfForms {
         int counted = x.op(SUM, 2, again);
         sheet.row("0, n, 256, n and 256", "0 2 0 2", x.form(0, 4), x.form(2, 4), x.form(again, 4), x.form(counted, 4));
         sheet.row("the same FORM, another DELAY", "" + late, x.form(late, 4));
+        leastOfUnlikeInOne();
         sheet.row("without FORM", "-2 -2 -2", x.form(wild, 4), x.form(round, 4), x.form(back, 4));
         sheet.sentence("Promise 13", "NONE: there is none such");
         for (int what = 0; what <= 4; what++) {
@@ -719,6 +762,21 @@ public final class EdgesOfForms {
             sheet.row("form(.., " + what + ")", "-1 -1 -1 -1", x.form(0, what), x.form(2, what), x.form(wild, what),
                     x.form(round, what));
         }
+    }
+
+    /** Four NAMES that are unlike a fifth in c0, c1, c2 or c3 alone, by all the ways to be so. */
+    private static void leastOfUnlikeInOne() {
+        LoopReducer x = powersOfTurns(8);
+        int second = x.carried(0);
+        x.next(second, x.op(SUM, second, 2));
+        int third = x.carried(0);
+        x.next(third, x.op(SUM, third, second));
+        int[] only = {1, 2, second, third};
+        for (int i = 0; i < only.length; i++) {
+            int unlike = x.op(SUM, 5, only[i]);
+            sheet.due("n n n and what is unlike 0 in c" + i + " alone", x.form(unlike, 4), unlike);
+        }
+        sheet.due("n n n and 0", x.form(x.op(SUM, 0, 5), 4), 5);
     }
 
     private static void poly() {

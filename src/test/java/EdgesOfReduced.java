@@ -108,6 +108,10 @@ public final class EdgesOfReduced {
         sheet.row("one is", "1 " + second, x.reduced(1), x.cell(0, 2));
         x.show(first, true);
         sheet.row("by numbers, not as they were SHOWN", "2 " + first + " " + second, x.reduced(1), x.cell(0, 2), x.cell(1, 2));
+        x.next(2, 2);
+        sheet.row("nothing GROWS any more", "0 -1", x.reduced(1), x.cell(0, 2));
+        x.next(2, 3);
+        sheet.row("it GROWS again", "2 " + first + " " + second, x.reduced(1), x.cell(0, 2), x.cell(1, 2));
         x.show(first, false);
         x.test(Sheet.BELOW, first, 0);
         sheet.row("in TEST", "2 " + first + " " + second, x.reduced(1), x.cell(0, 2), x.cell(1, 2));
@@ -159,6 +163,9 @@ public final class EdgesOfReduced {
         sheet.row("CELLS", "5 1 2 3 2 1", y.reduced(1), y.cell(0, 0), y.cell(1, 0), y.cell(2, 0), y.cell(3, 0), y.cell(4, 0));
         sheet.row("behind them, one that was there", "-2 0 3 4 -2", y.cell(0, 1), y.cell(1, 1), y.cell(2, 1), y.cell(3, 1),
                 y.cell(4, 1));
+        y.test(Sheet.UNLIKE, 2, y.number(4));
+        y.runReduced(0, 0, 0);
+        sheet.due("added up turn by turn", Sheet.seen(y), "1 0 0 3 1 1 5 4 8 7 9 27");
     }
 
     /** NAMES 0: 3, 1: 3 and 3 n, 2: its NEXT, 3: its square, 4: its cube, then each three times the one ahead of it. */

@@ -79,6 +79,18 @@ public final class EdgesOfRuns {
             sheet.due("modulo M", Sheet.seen(x), "255 0");
         }
         sheet.row("of a 256", "0 0", x.run(256, 0, 0), x.runReduced(256, 0, 0));
+        LoopReducer y = Sheet.counting(8);
+        int start = y.input();
+        int last = y.input();
+        int late = Sheet.later(y, start, 2);
+        y.show(late, true);
+        y.test(UNLIKE, 2, last);
+        sheet.due("runReduced ahead of any run", y.runReduced(9, 3, 0), 3);
+        sheet.due("from START 9 on", Sheet.seen(y), "9 0 1");
+        sheet.due("run by others", y.run(8, 2, 0), 2);
+        sheet.due("from START 8 on", Sheet.seen(y), "8 0");
+        sheet.due("runReduced by others", y.runReduced(-7, 2, 0), 2);
+        sheet.due("from START -7 on", Sheet.seen(y), "249 0");
     }
 
     private static void startThenNext() {

@@ -21,10 +21,19 @@ public final class FaceRuns {
         "int pop()", "int reduced(int)", "int run(int,int,int)", "int runReduced(int,int,int)", "int seen(int)",
         "int swapped(int,int,int,int)", "int told(int,int,int,int,int)", "int value(int,int,int,int,int)",
     };
+    /** What LANGUAGE.md leaves out, as it would stand in the text. */
     private static final String[] FORBIDDEN = {
-        "catch", "finally", "try ", "->", "::", "synchronized", "assert ", "Exact", "package ", "protected", "double",
-        "float", "String", "Object", "static {", "System.out", "System.nano", "System.current", "Random", "Thread",
+        "finally", "::", "synchronized", "assert ", "Exact(", "package ", "protected", "static {", "System.out", "System.err",
+        "System.nano", "System.current", "System.exit", "Random", "Thread", "getMessage", "printStackTrace", "hashCode",
+        "Exception(e", "extends RuntimeException", "extends Exception", "Math.random",
     };
+    /** What the machine throws by itself, and the classes above it: none of these may be caught. */
+    private static final String[] MACHINE = {
+        "ArrayIndexOutOfBoundsException", "NullPointerException", "ClassCastException", "NegativeArraySizeException",
+        "ArrayStoreException", "Exception", "Throwable", "Error", "StackOverflowError", "OutOfMemoryError",
+    };
+    private static final Set<String> IMPORTS = Set.of("java.util.NoSuchElementException", "java.util.ArrayList",
+            "java.util.List", "java.util.Arrays", "java.util.Iterator");
     private static int wrong = 0;
 
     public static void main(String[] args) throws IOException {
@@ -76,12 +85,17 @@ public final class FaceRuns {
             names.add(row.substring(row.indexOf(' ') + 1, row.indexOf('(')));
         }
         Class<?>[] classes = LoopReducer.class.getDeclaredClasses();
-        due(classes.length <= 11, "too many classes");
+        due(classes.length <= 12, "too many classes");
         for (Class<?> one : classes) {
             due(Modifier.isStatic(one.getModifiers()), one + " is not static");
-            due(one.getDeclaredFields().length <= 20, one + " has too many fields");
+            int fields = 0;
+            for (Field field : one.getDeclaredFields()) {
+                fields += Modifier.isStatic(field.getModifiers()) ? 0 : 1;
+            }
+            due(fields <= 20, one + " has too many fields");
             for (Method method : one.getDeclaredMethods()) {
-                due(!names.contains(method.getName()), method + " bears a name of the face");
+                boolean isPrivate = Modifier.isPrivate(method.getModifiers());
+                due(!isPrivate || !names.contains(method.getName()), method + " bears a name of the face");
                 due(method.getParameterCount() <= 7, method + " takes too much");
             }
         }
@@ -93,25 +107,32 @@ public final class FaceRuns {
             due(!code.contains(word), "the text has " + word);
         }
         due(text.chars().allMatch(sign -> sign < 128), "the text has other signs");
-        due(code.split("import ", -1).length == 2, "other imports");
-        Matcher loops = Pattern.compile("while \\(").matcher(code);
-        due(!loops.find(), "a loop without a counter");
-        Matcher statics = Pattern.compile("static (int|long|boolean|char)(\\[\\])? [A-Z_]+ =").matcher(code);
+        Matcher imports = Pattern.compile("import ([^;]*);").matcher(code);
+        while (imports.find()) {
+            due(IMPORTS.contains(imports.group(1)), "the text imports " + imports.group(1));
+        }
+        Matcher caught = Pattern.compile("catch \\(([^)]*) \\w+\\)").matcher(code);
+        while (caught.find()) {
+            for (String one : caught.group(1).split("\\s*\\|\\s*")) {
+                due(!Set.of(MACHINE).contains(one), "the text catches " + one);
+            }
+        }
+        for (String line : code.split("\n")) {
+            due(!line.contains("->") || line.matches("\\s*(case .*|default) ->.*"), "a lambda: " + line);
+        }
+        Matcher statics = Pattern.compile("static (int|long|boolean|char)(\\[\\])? \\w+( =|;)").matcher(code);
         due(!statics.find(), "a static field that is not final");
-        int open = 0;
         int start = 0;
         String[] lines = text.split("\n");
         for (int at = 0; at < lines.length; at++) {
             if (lines[at].matches(" {4,8}(public|private) .*\\) (throws \\w+ )?\\{")) {
                 start = at;
-                open++;
             }
             if (lines[at].matches(" {4,8}\\}")) {
                 due(at - start < 60, "a method of more than 60 lines ends at line " + (at + 1));
                 start = at;
             }
         }
-        due(open > 24, "the methods were not found");
     }
 
     /** No call but of throws, and that nothing else than what the document names. */
