@@ -24,6 +24,7 @@ public final class EdgesOfForms {
         productsByExponents();
         laterInAllTurns();
         cycleOfItself();
+        outsideFirst();
         numbersAndInputs();
         ofBothForms();
         laterByOneMore();
@@ -103,6 +104,9 @@ public final class EdgesOfForms {
         int twice = x.op(PRODUCT, x.op(SUM, square, square), x.number(1));
         sheet.row("twice that", "1 2 1 1", x.poly(twice, 0, NONE, 0), x.poly(twice, 0, 0, 3), x.poly(twice, 0, 0, 0),
                 x.poly(twice, 0, 0, 1));
+        int lower = x.op(PRODUCT, x.op(SUM, ab, 1), x.number(8));
+        sheet.row("8 a and 16 b", "1 8 1 0", x.poly(lower, 0, NONE, 0), x.poly(lower, 0, 0, 3), x.poly(lower, 0, 0, 0),
+                x.poly(lower, 0, 0, 1));
         sheet.row("numbers 0 and M", "0 0", x.poly(x.number(0), 0, NONE, 0), x.poly(x.number(16), 0, NONE, 0));
     }
 
@@ -152,7 +156,10 @@ public final class EdgesOfForms {
         int thrice = x.op(PRODUCT, x.number(3), fewBehind);
         sheet.row("three times", "84 1 3 3 2187 2196", x.poly(thrice, 0, NONE, 0), x.poly(thrice, 1, NONE, 0),
                 x.poly(thrice, 0, 0, 3), x.poly(thrice, 0, 83, 3), x.told(thrice, 0, 1, 2, -1), x.told(thrice, 3, 1, 2, -1));
-        sheet.wild("six more exponents", x, x.op(PRODUCT, fewBehind, c));
+        int thriceToo = x.op(PRODUCT, fewBehind, thrice - 1);
+        sheet.row("the other way round", thrice + " 84 1", x.form(thriceToo, 4), x.poly(thriceToo, 0, NONE, 0),
+                x.poly(thriceToo, 1, NONE, 0));
+        sheet.wild("one exponent more", x, x.op(PRODUCT, fewBehind, c));
         int late = Sheet.later(x, 1, grows);
         // ((n - 1)(n - 1)(n - 1) + 1) times that is 0, 1, 0, 6 times that
         sheet.row("LATER", "0 84 0 84 0 729", x.poly(late, 0, NONE, 0), x.poly(late, 1, NONE, 0), x.poly(late, 2, NONE, 0),
@@ -366,8 +373,45 @@ public final class EdgesOfForms {
         sheet.row("of 28", "536870910 536870910 536870912", full.cycle(1), full.cycle(28), full.cycle(29));
     }
 
+    private static void outsideFirst() {
+        sheet.sentence("Terms", "of those on which they HANG outside of their CYCLE first");
+        LoopReducer x = new LoopReducer(8);
+        x.number(1);
+        int third = x.carried(0);
+        int second = x.carried(0);
+        int sum = x.op(SUM, third, second);
+        int first = x.carried(0);
+        int steps = x.carried(0);
+        int counter = x.carried(0);
+        x.next(third, second);
+        x.next(second, first);
+        x.next(first, counter);
+        x.next(steps, x.op(SUM, steps, counter));
+        x.next(counter, x.op(SUM, counter, 0));
+        // the counter is n + 1, and LATER by a TURN n, which is no START 1
+        sheet.row("DELAYS", "3 2 3 1 0 0", x.form(third, 2), x.form(second, 2), x.form(sum, 2), x.form(first, 2),
+                x.form(steps, 2), x.form(counter, 2));
+        sheet.row("DEGREES", "1 1 1 1 2 1", x.form(third, 1), x.form(second, 1), x.form(sum, 1), x.form(first, 1),
+                x.form(steps, 1), x.form(counter, 1));
+        sheet.values("three TURNS later", x, third, "254 1 0 0");
+        sheet.values("added up", x, steps, "1 1 1 0");
+        x.next(counter, third);
+        sheet.row("all in one", "3 3 4 3 4 3 4", x.form(third, 0), x.form(second, 0), x.form(sum, 0), x.form(first, 0),
+                x.form(steps, 0), x.form(counter, 0), x.form(third, 3));
+    }
+
     private static void numbersAndInputs() {
         sheet.sentence("Terms", "A NUMBER, an INPUT: it, DELAY 0.");
+        LoopReducer number = new LoopReducer(4);
+        number.number(21);
+        sheet.form("a NUMBER alone", number, 0, "0 0 0");
+        sheet.row("by numbers", "1 1 5 5 5", number.cycle(0), number.poly(0, 0, NONE, 0), number.poly(0, 0, 0, 3),
+                number.value(0, 0, 0, 0, 0), number.told(0, 1000000, 0, 0, 0));
+        LoopReducer input = new LoopReducer(4);
+        input.input();
+        sheet.form("an INPUT alone", input, 0, "0 0 0");
+        sheet.row("by numbers", "1 1 1 5 5", input.cycle(0), input.poly(0, 0, NONE, 0), input.poly(0, 0, 0, 3),
+                input.value(0, 0, 21, 0, 0), input.told(0, 1000000, 21, 0, 0));
         LoopReducer x = withInputs(4);
         x.number(15);
         x.number(0);
@@ -852,6 +896,20 @@ public final class EdgesOfForms {
         sheet.row("round", "-1 7 1 7 1 7 -1", x.told(round, -1, 7, 0, 0), x.told(round, 0, 7, 0, 0), x.told(round, 1, 7, 0, 0),
                 x.told(round, 2, 65543, 0, 0), x.told(round, 999999, 7, 0, 0), x.told(round, 1000000, 7, 0, 0),
                 x.told(round, 1000001, 7, 0, 0));
+        LoopReducer y = new LoopReducer(8);
+        for (int name = 0; name < 3; name++) {
+            y.number(70 + name);
+        }
+        for (int name = 0; name < 3; name++) {
+            y.carried(name);
+        }
+        y.next(3, 4);
+        y.next(4, 5);
+        y.next(5, 3);
+        for (int turn : new int[] {0, 1, 2, 3, 4, 5, 999998, 999999, 1000000}) {
+            sheet.row("of three in TURN " + turn, Sheet.row(70 + turn % 3, 70 + (turn + 1) % 3, 70 + (turn + 2) % 3),
+                    y.told(3, turn, 0, 0, 0), y.told(4, turn, 0, 0, 0), y.told(5, turn, 0, 0, 0));
+        }
         sheet.row("back", "1 65535 1", x.told(back, 0, -1, 0, 0), x.told(back, 1, -1, 0, 0), x.told(back, 1000000, -1, 0, 0));
         sheet.sentence("Promise 16", "NONE: there are none such");
         sheet.row("without FORM, behind the last NAME", "-1 -1", x.told(wild, 0, 0, 0, 0), x.told(x.count(0), 0, 0, 0, 0));

@@ -261,6 +261,18 @@ public final class EdgesOfNames {
             sheet.due("pop", full.pop(), left);
             sheet.due("the last one is no more", Sheet.of(full, left, 0), Sheet.THROWN);
         }
+        LoopReducer again = Sheet.counting(8);
+        again.input();
+        int product = again.op(Sheet.PRODUCT, again.op(Sheet.PRODUCT, 2, 4), 2);
+        sheet.row("what GROWS", "1 2", again.form(product, 0), again.form(product, 1));
+        again.pop();
+        sheet.row("nothing of it is left in what comes then", Sheet.row(product, 0, 0, 7), again.number(7),
+                again.form(product, 0), again.form(product, 1), again.told(product, 9, 3, 0, 0));
+        again.pop();
+        again.op(Sheet.PRODUCT, 2, 2);
+        again.pop();
+        sheet.row("nor in an INPUT", Sheet.row(product, 0, 0, 4), again.input(), again.form(product, 0),
+                again.form(product, 1), again.told(product, 9, 3, 4, 0));
         sheet.sentence("Promise 7", "NONE: there is none");
         sheet.row("pop", "-1 -1 0", full.pop(), full.pop(), full.count(0));
         sheet.row("of a new one", "-1 0", new LoopReducer(8).pop(), full.number(1));

@@ -45,6 +45,12 @@ public final class EdgesOfReduced {
         sheet.due("SHOWN no more", x.reduced(0), bits(29));
         x.test(Sheet.BELOW, 0, 1);
         sheet.due("in TEST no more", x.reduced(0), 3);
+        x.test(Sheet.BELOW, 4, 1);
+        x.show(6, true);
+        sheet.due("TEST and SHOWN at once", x.reduced(0), bits(1, 4, 6));
+        x.show(6, false);
+        x.test(Sheet.BELOW, 0, 1);
+        sheet.due("and back again", x.reduced(0), 3);
         for (int name = 0; name < 30; name++) {
             x.show(name, true);
         }

@@ -351,9 +351,10 @@ public final class EdgesOfRuns {
         x.test(UNLIKE, 2, a);
         for (int name : names) {
             x.show(name, true);
-            x.runReduced(6, 3, 0);
+            // By numbers that no RUN ahead had, so that what that one left is of no use.
+            x.runReduced(6, 30 + name, 0);
             String alone = Sheet.seen(x);
-            x.run(6, 3, 0);
+            x.run(6, 30 + name, 0);
             sheet.due("NAME " + name + " alone", alone, Sheet.seen(x));
             x.show(name, false);
         }
@@ -365,6 +366,15 @@ public final class EdgesOfRuns {
         x.run(6, 3, 0);
         sheet.due("all of them", all, Sheet.seen(x));
         sheet.row("what is STEADY is by the numbers of this RUN", "0 6 18", x.seen(0), x.seen(3), x.seen(4));
+        LoopReducer first = new LoopReducer(8);
+        first.number(5);
+        first.number(6);
+        first.show(0, true);
+        first.show(first.op(SUM, 0, 1), true);
+        int once = Sheet.later(first, 0, 1);
+        first.test(UNLIKE, once, 1);
+        sheet.due("ahead of any run, of STEADY ones", first.runReduced(0, 0, 0), 1);
+        sheet.due("what is seen", Sheet.seen(first), "5 11");
         sheet.sentence("Promise 21", "PRODUCTS that GROW of CELLS: likewise.");
         LoopReducer y = new LoopReducer(8);
         sheet.row("no NAMES, no TEST", "-1 0", y.runReduced(0, 0, 0), y.seen(NONE));
