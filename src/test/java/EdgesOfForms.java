@@ -48,7 +48,7 @@ public final class EdgesOfForms {
     // ---- POLYS and FORMS
 
     /** The product of so many of the INPUTS 0, 1, 2; it takes as many NAMES less one. */
-    private static int power(LoopReducer x, int e, int f, int g) {
+    private static int power(Loop x, int e, int f, int g) {
         int made = NONE;
         int[] exponents = {e, f, g};
         for (int input = 0; input < 3; input++) {
@@ -59,8 +59,8 @@ public final class EdgesOfForms {
         return made;
     }
 
-    private static LoopReducer withInputs(int width) {
-        LoopReducer x = new LoopReducer(width);
+    private static Loop withInputs(int width) {
+        Loop x = new Loop(width);
         x.input();
         x.input();
         x.input();
@@ -72,7 +72,7 @@ public final class EdgesOfForms {
         for (int e = 0; e <= 7; e++) {
             for (int f = 0; e + f <= 7; f++) {
                 for (int g = 0; e + f + g <= 7; g++) {
-                    LoopReducer x = withInputs(8);
+                    Loop x = withInputs(8);
                     int made = power(x, e, f, g);
                     if (e + f + g == 7) {
                         sheet.wild("7 together, " + Sheet.row(e, f, g), x, made);
@@ -88,7 +88,7 @@ public final class EdgesOfForms {
 
     private static void numbersThatAreNotZero() {
         sheet.sentence("Terms", "times numbers that are not 0");
-        LoopReducer x = withInputs(4);
+        Loop x = withInputs(4);
         int ab = x.op(SUM, 0, 1);
         sheet.due("a and b", x.poly(ab, 0, NONE, 0), 2);
         sheet.row("a and b less b", "1 1 0 0 1", x.poly(x.op(DIFFERENCE, ab, 1), 0, NONE, 0), x.poly(4, 0, 0, 0),
@@ -112,7 +112,7 @@ public final class EdgesOfForms {
 
     private static void risingCodes() {
         sheet.sentence("Terms", "told by 49 g + 7 f + e rising");
-        LoopReducer x = withInputs(16);
+        Loop x = withInputs(16);
         int one = x.op(SUM, x.op(SUM, 2, 1), x.op(SUM, 0, x.number(1)));
         int cube = x.op(PRODUCT, x.op(PRODUCT, one, one), one);
         int sixth = x.op(PRODUCT, cube, cube);
@@ -136,7 +136,7 @@ public final class EdgesOfForms {
     /** POLYS that have all the 84 MONOMIALS side by side, so that none may reach into the next one. */
     private static void fullPolys() {
         sheet.sentence("Terms", "A POLY: a sum of MONOMIALS");
-        LoopReducer x = powersOfTurns(16);
+        Loop x = powersOfTurns(16);
         int a = x.input();
         int b = x.input();
         int c = x.input();
@@ -170,8 +170,8 @@ public final class EdgesOfForms {
     }
 
     /** NAMES: 2: n, 4: n n, 5: n n n. */
-    private static LoopReducer powersOfTurns(int width) {
-        LoopReducer x = Sheet.counting(width);
+    private static Loop powersOfTurns(int width) {
+        Loop x = Sheet.counting(width);
         x.op(PRODUCT, 2, 2);
         x.op(PRODUCT, 4, 2);
         return x;
@@ -181,7 +181,7 @@ public final class EdgesOfForms {
         sheet.sentence("Terms", "what is c0 + n c1 + n(n-1)/2 c2 + n(n-1)(n-2)/6 c3 in TURN n");
         int[] turns = {0, 1, 2, 3, 4, 15, 16, 17, 65535, 65536, 65537, 131072, 262144, 999998, 999999, 1000000};
         for (int width : new int[] {4, 9, 16}) {
-            LoopReducer x = powersOfTurns(width);
+            Loop x = powersOfTurns(width);
             int second = Sheet.later(x, 0, 0);
             x.next(second, x.op(SUM, second, 2));
             int third = Sheet.later(x, 0, 0);
@@ -204,7 +204,7 @@ public final class EdgesOfForms {
 
     private static void fromItsDelayOn() {
         sheet.sentence("Terms", "from its DELAY (0 to 3) on");
-        LoopReducer x = Sheet.counting(8);
+        Loop x = Sheet.counting(8);
         x.number(100);
         int name = 2;
         for (int delay = 1; delay <= 3; delay++) {
@@ -220,7 +220,7 @@ public final class EdgesOfForms {
 
     private static void degrees() {
         sheet.sentence("Terms", "DEGREE: the greatest i of which ci is not 0 (0, if none)");
-        LoopReducer x = powersOfTurns(4);
+        Loop x = powersOfTurns(4);
         sheet.row("1, n, n n, n n n", "0 1 2 3", x.form(1, 1), x.form(2, 1), x.form(4, 1), x.form(5, 1));
         sheet.row("0, n less n, n n n less it", "0 0 0", x.form(0, 1), x.form(x.op(DIFFERENCE, 2, 2), 1),
                 x.form(x.op(DIFFERENCE, 5, 5), 1));
@@ -241,7 +241,7 @@ public final class EdgesOfForms {
 
     private static void greaterDelay() {
         sheet.sentence("Terms", "DELAY is the greater one");
-        LoopReducer x = Sheet.counting(8);
+        Loop x = Sheet.counting(8);
         x.number(100);
         int[] late = {2, 0, 0, 0};
         for (int delay = 1; delay <= 3; delay++) {
@@ -264,7 +264,7 @@ public final class EdgesOfForms {
     private static void productsByDegrees() {
         sheet.sentence("Terms", "a product of DEGREE above 3 by the sum of both DEGREES");
         for (int width : new int[] {4, 16}) {
-            LoopReducer x = powersOfTurns(width);
+            Loop x = powersOfTurns(width);
             int[] powers = {1, 2, 4, 5};
             for (int one = 0; one <= 3; one++) {
                 for (int other = 0; other <= 3; other++) {
@@ -288,14 +288,14 @@ public final class EdgesOfForms {
 
     private static void productsOfZero() {
         sheet.sentence("Terms", "(of one that is 0 in all: 0)");
-        LoopReducer x = powersOfTurns(8);
+        Loop x = powersOfTurns(8);
         int gone = x.op(DIFFERENCE, 5, 5);
         sheet.form("(n n n less itself) times n n n", x, x.op(PRODUCT, gone, 5), "0 0 0");
         sheet.form("n n n times (n n n less itself)", x, x.op(PRODUCT, 5, gone), "0 0 0");
         int zeroTimes = x.op(PRODUCT, 0, 5);
         sheet.form("0 times n n n", x, zeroTimes, "0 0 0");
         sheet.row("by numbers", "0 0", x.told(zeroTimes, 9, 0, 0, 0), x.poly(zeroTimes, 0, NONE, 0));
-        LoopReducer y = withInputs(8);
+        Loop y = withInputs(8);
         int sixth = power(y, 2, 2, 2);
         int none = y.op(DIFFERENCE, sixth, sixth);
         sheet.form("0 times a a b b c c", y, y.op(PRODUCT, none, sixth), "0 0 0");
@@ -304,7 +304,7 @@ public final class EdgesOfForms {
 
     private static void productsByExponents() {
         sheet.sentence("Terms", "with exponents above 6 together in two MONOMIALS that are multiplied, is none");
-        LoopReducer x = withInputs(8);
+        Loop x = withInputs(8);
         int third = power(x, 1, 1, 1);
         int fourth = x.op(PRODUCT, third, 0);
         int one = x.number(1);
@@ -318,7 +318,7 @@ public final class EdgesOfForms {
         int twice = x.op(SUM, third, third);
         sheet.wild("of 128 and 2, which is 0 modulo 256", x, x.op(PRODUCT, half, twice));
         sheet.form("3 and what is 4 less itself", x, x.op(PRODUCT, x.op(DIFFERENCE, fourth, fourth), third), "0 0 0");
-        LoopReducer y = withInputs(8);
+        Loop y = withInputs(8);
         int inputs = power(y, 1, 2, 1);
         int grows = y.carried(0);
         y.next(grows, y.op(SUM, grows, inputs));
@@ -332,7 +332,7 @@ public final class EdgesOfForms {
 
     private static void laterInAllTurns() {
         sheet.sentence("Terms", "a FORM that tells in TURN n what the FORM tells in TURN n - 1 (all n)");
-        LoopReducer x = powersOfTurns(8);
+        Loop x = powersOfTurns(8);
         int two = x.number(2);
         int[] sources = {1, 2, 4, 5};
         String[] wants = {"1 0 0 0", "255 1 0 0", "1 255 2 0", "255 1 0 6"};
@@ -349,7 +349,7 @@ public final class EdgesOfForms {
 
     private static void cycleOfItself() {
         sheet.sentence("Terms", "Its CYCLE: itself, and all that HANG ON it and it on them.");
-        LoopReducer x = Sheet.counting(8);
+        Loop x = Sheet.counting(8);
         int behind = x.op(SUM, 3, 2);
         int own = x.carried(1);
         int follows = Sheet.later(x, 0, 2);
@@ -359,7 +359,7 @@ public final class EdgesOfForms {
         x.next(follows, follows);
         x.next(2, follows);
         sheet.row("no more", Sheet.row(4, 8, 1 << follows), x.cycle(2), x.cycle(3), x.cycle(follows));
-        LoopReducer full = new LoopReducer(8);
+        Loop full = new Loop(8);
         full.number(1);
         full.carried(0);
         for (int name = 2; name < 30; name++) {
@@ -375,7 +375,7 @@ public final class EdgesOfForms {
 
     private static void outsideFirst() {
         sheet.sentence("Terms", "of those on which they HANG outside of their CYCLE first");
-        LoopReducer x = new LoopReducer(8);
+        Loop x = new Loop(8);
         x.number(1);
         int third = x.carried(0);
         int second = x.carried(0);
@@ -402,17 +402,17 @@ public final class EdgesOfForms {
 
     private static void numbersAndInputs() {
         sheet.sentence("Terms", "A NUMBER, an INPUT: it, DELAY 0.");
-        LoopReducer number = new LoopReducer(4);
+        Loop number = new Loop(4);
         number.number(21);
         sheet.form("a NUMBER alone", number, 0, "0 0 0");
         sheet.row("by numbers", "1 1 5 5 5", number.cycle(0), number.poly(0, 0, NONE, 0), number.poly(0, 0, 0, 3),
                 number.value(0, 0, 0, 0, 0), number.told(0, 1000000, 0, 0, 0));
-        LoopReducer input = new LoopReducer(4);
+        Loop input = new Loop(4);
         input.input();
         sheet.form("an INPUT alone", input, 0, "0 0 0");
         sheet.row("by numbers", "1 1 1 5 5", input.cycle(0), input.poly(0, 0, NONE, 0), input.poly(0, 0, 0, 3),
                 input.value(0, 0, 21, 0, 0), input.told(0, 1000000, 21, 0, 0));
-        LoopReducer x = withInputs(4);
+        Loop x = withInputs(4);
         x.number(15);
         x.number(0);
         for (int name = 0; name < 5; name++) {
@@ -425,7 +425,7 @@ public final class EdgesOfForms {
 
     private static void ofBothForms() {
         sheet.sentence("Terms", "that of both FORMS; none, if one has none.");
-        LoopReducer x = new LoopReducer(8);
+        Loop x = new Loop(8);
         x.number(0);
         int wild = Sheet.squaring(x, 0);
         for (int kind = 0; kind <= 2; kind++) {
@@ -438,7 +438,7 @@ public final class EdgesOfForms {
 
     private static void laterByOneMore() {
         sheet.sentence("Terms", "DELAY is NEXT's and 1 more (above 3: none)");
-        LoopReducer x = Sheet.counting(8);
+        Loop x = Sheet.counting(8);
         int first = Sheet.later(x, 1, 0);
         int second = Sheet.later(x, 1, first);
         int third = Sheet.later(x, 1, second);
@@ -454,7 +454,7 @@ public final class EdgesOfForms {
 
     private static void laterAtOnce() {
         sheet.sentence("Terms", "but 0, if NEXT's is 0 and LATER tells START in TURN 0 (the same POLY)");
-        LoopReducer x = Sheet.counting(4);
+        Loop x = Sheet.counting(4);
         int last = x.number(-1);
         int two = x.number(-2);
         int a = x.input();
@@ -476,7 +476,7 @@ public final class EdgesOfForms {
 
     private static void laterOfWhatHasNone() {
         sheet.sentence("Terms", "none, if NEXT has none.");
-        LoopReducer x = new LoopReducer(8);
+        Loop x = new Loop(8);
         x.number(1);
         int wild = Sheet.squaring(x, 0);
         sheet.wild("of what is WILD", x, Sheet.later(x, 0, wild));
@@ -492,7 +492,7 @@ public final class EdgesOfForms {
 
     private static void timesItself() {
         sheet.sentence("Terms", "a PRODUCT of a NUMBER and one of the CYCLE: A, S times it");
-        LoopReducer x = new LoopReducer(4);
+        Loop x = new Loop(4);
         x.number(3);
         x.number(11);
         int y = x.carried(0);
@@ -510,7 +510,7 @@ public final class EdgesOfForms {
         sheet.wild("11 (3 y + 3), which HANGS ON it", x, again);
         x.next(y, x.op(PRODUCT, x.number(17), y));
         sheet.form("17 y, which is y modulo 16", x, y, "0 0 0");
-        LoopReducer w = powersOfTurns(8);
+        Loop w = powersOfTurns(8);
         int seven = w.number(7);
         int z = w.carried(0);
         int gone = w.op(PRODUCT, z, 0);
@@ -522,7 +522,7 @@ public final class EdgesOfForms {
 
     private static void addedUp() {
         sheet.sentence("Terms", "A 1, S of DEGREE 2 at most: x is START, S's c0, c1, c2.");
-        LoopReducer x = powersOfTurns(8);
+        Loop x = powersOfTurns(8);
         int seven = x.number(7);
         int[] steps = {0, 1, 2, 4};
         String[] wants = {"7 0 0 0", "7 1 0 0", "7 0 1 0", "7 0 1 2"};
@@ -541,7 +541,7 @@ public final class EdgesOfForms {
         x.next(y, less);
         sheet.form("what grows by n n n less n n n", x, y, "0 0 0");
         sheet.form("of its CYCLE what is more by n n n", x, more, "1 3 0");
-        LoopReducer z = powersOfTurns(4);
+        Loop z = powersOfTurns(4);
         int w = z.carried(0);
         z.next(w, z.op(SUM, w, z.op(PRODUCT, 5, z.number(8))));
         // 8 n n n is 8 n modulo 16
@@ -550,7 +550,7 @@ public final class EdgesOfForms {
 
     private static void laterOfTheRest() {
         sheet.sentence("Terms", "A 0: as LATER of S, above.");
-        LoopReducer x = powersOfTurns(8);
+        Loop x = powersOfTurns(8);
         int last = x.number(-1);
         int y = x.carried(1);
         int gone = x.op(DIFFERENCE, y, y);
@@ -566,7 +566,7 @@ public final class EdgesOfForms {
         sheet.values("n n n from M - 1 on", x, z, "255 1 0 6");
         sheet.row("in TURNS 0, 1, 2, 3", "255 0 1 8", x.told(z, 0, 0, 0, 0), x.told(z, 1, 0, 0, 0), x.told(z, 2, 0, 0, 0),
                 x.told(z, 3, 0, 0, 0));
-        LoopReducer w = new LoopReducer(4);
+        Loop w = new Loop(4);
         w.number(8);
         int v = w.carried(0);
         int half = w.op(PRODUCT, v, 0);
@@ -577,7 +577,7 @@ public final class EdgesOfForms {
 
     private static void othersOfTheCycle() {
         sheet.sentence("Terms", "others of the CYCLE are A times x's FORM and S, of x's DELAY");
-        LoopReducer x = Sheet.counting(8);
+        Loop x = Sheet.counting(8);
         int five = x.number(5);
         int y = x.carried(five);
         int twice = x.op(SUM, y, y);
@@ -603,7 +603,7 @@ public final class EdgesOfForms {
         degreeAbove();
     }
 
-    private static void wholeCycleIsWild(String what, LoopReducer x, int name) {
+    private static void wholeCycleIsWild(String what, Loop x, int name) {
         int cycle = x.cycle(name);
         sheet.due(what + " is no CYCLE of one", Integer.bitCount(cycle) > 1, true);
         for (int member = 0; member < x.count(0); member++) {
@@ -616,14 +616,14 @@ public final class EdgesOfForms {
     private static void otherA() {
         sheet.sentence("Terms", "Otherwise (other A");
         for (int a = 2; a < 16; a++) {
-            LoopReducer x = new LoopReducer(4);
+            Loop x = new Loop(4);
             x.number(a);
             x.number(0);
             int y = x.carried(1);
             x.next(y, x.op(PRODUCT, y, 0));
             wholeCycleIsWild(a + " times itself from 0 on", x, y);
         }
-        LoopReducer x = new LoopReducer(4);
+        Loop x = new Loop(4);
         x.number(1);
         int y = x.carried(0);
         x.next(y, x.op(SUM, y, y));
@@ -634,7 +634,7 @@ public final class EdgesOfForms {
 
     private static void anotherProduct() {
         sheet.sentence("Terms", "another PRODUCT");
-        LoopReducer x = Sheet.counting(8);
+        Loop x = Sheet.counting(8);
         int a = x.input();
         int steadyOne = x.op(PRODUCT, 1, 1);
         int y = x.carried(1);
@@ -656,7 +656,7 @@ public final class EdgesOfForms {
 
     private static void outsideWithoutForm() {
         sheet.sentence("Terms", "NAMES outside without FORM or with DELAY");
-        LoopReducer x = new LoopReducer(8);
+        Loop x = new Loop(8);
         x.number(1);
         int wild = Sheet.squaring(x, 0);
         int y = x.carried(0);
@@ -672,7 +672,7 @@ public final class EdgesOfForms {
 
     private static void outsideWithDelay() {
         sheet.sentence("Terms", "or with DELAY");
-        LoopReducer x = Sheet.counting(8);
+        Loop x = Sheet.counting(8);
         int late = Sheet.later(x, 1, 0);
         sheet.form("what is 1 once, then 0", x, late, "2 0 1");
         int y = x.carried(1);
@@ -691,7 +691,7 @@ public final class EdgesOfForms {
 
     private static void degreeAbove() {
         sheet.sentence("Terms", "a DEGREE above) none of the CYCLE has one.");
-        LoopReducer x = powersOfTurns(8);
+        Loop x = powersOfTurns(8);
         int y = x.carried(0);
         int same = x.op(PRODUCT, y, 1);
         x.next(y, x.op(DIFFERENCE, same, 5));
@@ -706,7 +706,7 @@ public final class EdgesOfForms {
     private static void rounds() {
         sheet.sentence("Terms", "A CYCLE of two CARRIED ones or more, and no others: none; these go ROUND.");
         for (int length : new int[] {1, 2, 3, 29}) {
-            LoopReducer x = new LoopReducer(8);
+            Loop x = new Loop(8);
             x.number(9);
             for (int name = 1; name <= length; name++) {
                 x.carried(0);
@@ -724,7 +724,7 @@ public final class EdgesOfForms {
             }
         }
         sheet.sentence("Terms", "All other CYCLES: none.");
-        LoopReducer x = new LoopReducer(8);
+        Loop x = new Loop(8);
         x.number(0);
         int one = x.carried(0);
         int other = x.carried(0);
@@ -739,7 +739,7 @@ public final class EdgesOfForms {
     }
 
     private static void kinds() {
-        LoopReducer x = Sheet.counting(8);
+        Loop x = Sheet.counting(8);
         int late = Sheet.later(x, 1, 0);
         int wild = Sheet.squaring(x, 0);
         int round = x.carried(0);
@@ -763,9 +763,9 @@ public final class EdgesOfForms {
 
     private static void cycle() {
         sheet.sentence("Promise 12", "NONE: there is none such.");
-        LoopReducer x = Sheet.counting(8);
+        Loop x = Sheet.counting(8);
         sheet.row("the last one, behind it", "12 -1", x.cycle(3), x.cycle(4));
-        LoopReducer full = Sheet.full(8);
+        Loop full = Sheet.full(8);
         sheet.due("the 30th", full.cycle(29), 1 << 29);
         for (int none : Sheet.NO_NAMES) {
             sheet.row("cycle(" + none + ")", "-1 -1", x.cycle(none), full.cycle(none));
@@ -775,7 +775,7 @@ public final class EdgesOfForms {
     }
 
     private static void form() {
-        LoopReducer x = Sheet.counting(8);
+        Loop x = Sheet.counting(8);
         int wild = Sheet.squaring(x, 1);
         int round = x.carried(1);
         int back = Sheet.later(x, 1, round);
@@ -810,7 +810,7 @@ public final class EdgesOfForms {
 
     /** Four NAMES that are unlike a fifth in c0, c1, c2 or c3 alone, by all the ways to be so. */
     private static void leastOfUnlikeInOne() {
-        LoopReducer x = powersOfTurns(8);
+        Loop x = powersOfTurns(8);
         int second = x.carried(0);
         x.next(second, x.op(SUM, second, 2));
         int third = x.carried(0);
@@ -824,7 +824,7 @@ public final class EdgesOfForms {
     }
 
     private static void poly() {
-        LoopReducer x = withInputs(8);
+        Loop x = withInputs(8);
         int sum = x.op(SUM, x.op(SUM, 0, 2), x.number(9));
         int grows = x.carried(0);
         x.next(grows, x.op(SUM, grows, sum));
@@ -857,7 +857,7 @@ public final class EdgesOfForms {
     }
 
     private static void value() {
-        LoopReducer x = withInputs(8);
+        Loop x = withInputs(8);
         int product = power(x, 1, 1, 1);
         int grows = x.carried(0);
         x.next(grows, x.op(SUM, grows, product));
@@ -880,7 +880,7 @@ public final class EdgesOfForms {
     }
 
     private static void told() {
-        LoopReducer x = Sheet.counting(16);
+        Loop x = Sheet.counting(16);
         int a = x.input();
         int round = x.carried(a);
         int back = Sheet.later(x, 1, round);
@@ -896,7 +896,7 @@ public final class EdgesOfForms {
         sheet.row("round", "-1 7 1 7 1 7 -1", x.told(round, -1, 7, 0, 0), x.told(round, 0, 7, 0, 0), x.told(round, 1, 7, 0, 0),
                 x.told(round, 2, 65543, 0, 0), x.told(round, 999999, 7, 0, 0), x.told(round, 1000000, 7, 0, 0),
                 x.told(round, 1000001, 7, 0, 0));
-        LoopReducer y = new LoopReducer(8);
+        Loop y = new Loop(8);
         for (int name = 0; name < 3; name++) {
             y.number(70 + name);
         }

@@ -38,7 +38,7 @@ public final class EdgesOfNames {
         sheet.sentence("Terms", "WIDTH w, 4 to 16; M is 2 to the power of w");
         int m = 16;
         for (int width = 4; width <= 16; width++) {
-            sheet.due("M of WIDTH " + width, new LoopReducer(width).count(7), m);
+            sheet.due("M of WIDTH " + width, new Loop(width).count(7), m);
             m *= 2;
         }
     }
@@ -46,7 +46,7 @@ public final class EdgesOfNames {
     private static void moduloM() {
         sheet.sentence("Terms", "all numbers are modulo M, 0 .. M - 1");
         for (int width : new int[] {4, 8, 15, 16}) {
-            LoopReducer x = new LoopReducer(width);
+            Loop x = new Loop(width);
             int last = x.count(7) - 1;
             x.number(last);
             x.number(1);
@@ -66,7 +66,7 @@ public final class EdgesOfNames {
 
     private static void mostNames() {
         sheet.sentence("Terms", "NAMES, at most 30, numbered from 0 on as they come");
-        LoopReducer x = new LoopReducer(8);
+        Loop x = new Loop(8);
         for (int name = 0; name < 30; name++) {
             int came = name == 0 ? x.number(5) : name % 4 == 1 ? x.carried(0) : name % 4 == 2 ? x.op(0, 0, 1) : x.number(3);
             sheet.due("NAME " + name, came, name);
@@ -77,7 +77,7 @@ public final class EdgesOfNames {
 
     private static void mostInputs() {
         sheet.sentence("Terms", "an INPUT (3 at most, 0, 1, 2 as they come: told for each RUN)");
-        LoopReducer x = new LoopReducer(8);
+        Loop x = new Loop(8);
         x.number(9);
         sheet.row("INPUTS between others", "1 2 3 4 -1", x.input(), x.number(9), x.input(), x.input(), x.input());
         sheet.row("which they are", "0 1 2", Sheet.of(x, 1, 1), Sheet.of(x, 3, 1), Sheet.of(x, 4, 1));
@@ -94,7 +94,7 @@ public final class EdgesOfNames {
 
     private static void madeOfNamesThatThereAre() {
         sheet.sentence("Terms", "a SUM, DIFFERENCE, PRODUCT of two NAMES that there are");
-        LoopReducer x = new LoopReducer(8);
+        Loop x = new Loop(8);
         x.number(3);
         for (int kind = 0; kind <= 2; kind++) {
             sheet.row("of itself, which is not there yet", "-1 -1", x.op(kind, 1, 0), x.op(kind, 0, 1));
@@ -105,7 +105,7 @@ public final class EdgesOfNames {
 
     private static void itselfAtFirst() {
         sheet.sentence("Terms", "its NEXT, a NAME (at first itself)");
-        LoopReducer x = new LoopReducer(8);
+        Loop x = new Loop(8);
         x.number(3);
         x.carried(0);
         x.carried(0);
@@ -115,7 +115,7 @@ public final class EdgesOfNames {
 
     private static void noTestAtFirst() {
         sheet.sentence("Terms", "none at first");
-        LoopReducer x = new LoopReducer(8);
+        Loop x = new Loop(8);
         x.number(3);
         sheet.row("TEST", "-1 -1 -1", x.count(4), x.count(5), x.count(6));
         sheet.due("the first TEST", x.test(0, 0, 0), true);
@@ -126,14 +126,14 @@ public final class EdgesOfNames {
     private static void newObject() {
         sheet.sentence("Promise 1", "WIDTH: below 4: 4");
         for (int width : new int[] {3, 2, 1, 0, -1, -4, Integer.MIN_VALUE}) {
-            sheet.due("M of " + width, new LoopReducer(width).count(7), 16);
+            sheet.due("M of " + width, new Loop(width).count(7), 16);
         }
         sheet.sentence("Promise 1", "above 16: 16");
         for (int width : new int[] {17, 18, 31, 32, 36, 100, Integer.MAX_VALUE}) {
-            sheet.due("M of " + width, new LoopReducer(width).count(7), 65536);
+            sheet.due("M of " + width, new Loop(width).count(7), 65536);
         }
         sheet.sentence("Promise 1", "No NAMES.");
-        LoopReducer x = new LoopReducer(8);
+        Loop x = new Loop(8);
         sheet.due("a new one", Sheet.state(x), "0 0 0 0 -1 -1 -1 256 ");
         sheet.row("its calls of NAMES", "-77 -1 -1 -1 -1 -1", Sheet.of(x, 0, 0), x.cycle(0), x.form(0, 0),
                 x.poly(0, 0, NONE, 0), x.value(0, 0, 0, 0, 0), x.told(0, 0, 0, 0, 0));
@@ -146,14 +146,14 @@ public final class EdgesOfNames {
         sheet.sentence("Promise 2", "A NUMBER comes (modulo M): its NAME.");
         int[] given = {0, 15, 16, 17, -1, -15, -16, -17, Integer.MIN_VALUE, Integer.MAX_VALUE, 65535, 65536, -65536};
         for (int width : new int[] {4, 16}) {
-            LoopReducer x = new LoopReducer(width);
+            Loop x = new Loop(width);
             for (int i = 0; i < given.length; i++) {
                 sheet.due("NAME of " + given[i], x.number(given[i]), i);
                 sheet.due(given[i] + " at WIDTH " + width, Sheet.of(x, i, 1), Math.floorMod(given[i], 1 << width));
             }
         }
         sheet.sentence("Promise 2", "NONE: there are 30.");
-        LoopReducer x = Sheet.full(8);
+        Loop x = Sheet.full(8);
         String state = Sheet.state(x);
         sheet.row("number", "-1 -1 -1", x.number(0), x.number(-1), x.number(7));
         sheet.due("it stays", Sheet.state(x), state);
@@ -162,21 +162,21 @@ public final class EdgesOfNames {
 
     private static void input() {
         sheet.sentence("Promise 3", "NONE: there are 3");
-        LoopReducer x = new LoopReducer(8);
+        Loop x = new Loop(8);
         sheet.row("input", "0 1 2", x.input(), x.input(), x.input());
         String state = Sheet.state(x);
         sheet.row("a fourth one", "-1 -1", x.input(), x.input());
         sheet.due("it stays", Sheet.state(x), state);
         sheet.row("one goes, one comes", "2 2 2 -1", x.pop(), x.input(), Sheet.of(x, 2, 1), x.input());
         sheet.sentence("Promise 3", "there are 30 NAMES.");
-        LoopReducer full = Sheet.full(8);
+        Loop full = Sheet.full(8);
         sheet.row("input", "-1 0 30", full.input(), full.count(1), full.count(0));
         sheet.row("there are 29", "29 29 1 0", full.pop(), full.input(), full.count(1), Sheet.of(full, 29, 1));
     }
 
     private static void carried() {
         sheet.sentence("Promise 4", "NONE: START is no NUMBER, no INPUT");
-        LoopReducer x = new LoopReducer(8);
+        Loop x = new Loop(8);
         sheet.row("no NAMES", "-1 -1", x.carried(0), x.carried(-1));
         x.number(4);
         x.input();
@@ -193,7 +193,7 @@ public final class EdgesOfNames {
         }
         sheet.due("it stays", Sheet.state(x), state);
         sheet.sentence("Promise 4", "there are 30.");
-        LoopReducer full = Sheet.full(8);
+        Loop full = Sheet.full(8);
         sheet.row("carried", "-1 0", full.carried(0), full.count(3));
         sheet.row("there are 29", "29 29 1", full.pop(), full.carried(28), full.count(3));
     }
@@ -201,7 +201,7 @@ public final class EdgesOfNames {
     // ---- Promises 5 and 6
 
     private static void op() {
-        LoopReducer x = new LoopReducer(8);
+        Loop x = new Loop(8);
         x.number(5);
         x.number(6);
         String state = Sheet.state(x);
@@ -220,13 +220,13 @@ public final class EdgesOfNames {
         sheet.due("it stays", Sheet.state(x), state);
         sheet.row("those that there are", "2 3 4", x.op(0, 1, 0), x.op(1, 0, 2), x.op(2, 3, 3));
         sheet.sentence("Promise 5", "there are 30.");
-        LoopReducer full = Sheet.full(8);
+        Loop full = Sheet.full(8);
         sheet.row("op", "-1 -1 -1 30", full.op(0, 0, 1), full.op(1, 0, 1), full.op(2, 0, 1), full.count(0));
         sheet.row("there are 29", "29 29", full.pop(), full.op(2, 28, 28));
     }
 
     private static void next() {
-        LoopReducer x = new LoopReducer(8);
+        Loop x = new Loop(8);
         x.number(5);
         x.carried(0);
         x.input();
@@ -256,12 +256,12 @@ public final class EdgesOfNames {
 
     private static void pop() {
         sheet.sentence("Promise 7", "The last NAME goes: how many there are.");
-        LoopReducer full = Sheet.full(8);
+        Loop full = Sheet.full(8);
         for (int left = 29; left >= 0; left--) {
             sheet.due("pop", full.pop(), left);
             sheet.due("the last one is no more", Sheet.of(full, left, 0), Sheet.THROWN);
         }
-        LoopReducer again = Sheet.counting(8);
+        Loop again = Sheet.counting(8);
         again.input();
         int product = again.op(Sheet.PRODUCT, again.op(Sheet.PRODUCT, 2, 4), 2);
         sheet.row("what GROWS", "1 2", again.form(product, 0), again.form(product, 1));
@@ -275,7 +275,7 @@ public final class EdgesOfNames {
                 again.form(product, 1), again.told(product, 9, 3, 4, 0));
         sheet.sentence("Promise 7", "NONE: there is none");
         sheet.row("pop", "-1 -1 0", full.pop(), full.pop(), full.count(0));
-        sheet.row("of a new one", "-1 0", new LoopReducer(8).pop(), full.number(1));
+        sheet.row("of a new one", "-1 0", new Loop(8).pop(), full.number(1));
         popOfWhatIsUsed();
         popOfWhatIsAsked();
     }
@@ -284,25 +284,25 @@ public final class EdgesOfNames {
     private static void popOfWhatIsUsed() {
         sheet.sentence("Promise 7", "another NAME is made of it");
         for (int kind = 0; kind <= 2; kind++) {
-            LoopReducer x = new LoopReducer(8);
+            Loop x = new Loop(8);
             x.number(5);
             x.number(6);
             x.op(kind, 0, 1);
             x.op(kind, 2, 0);
             sheet.row("what is made goes first", "3 2 1 1 5", x.pop(), x.pop(), x.pop(), x.count(0), Sheet.of(x, 0, 1));
         }
-        LoopReducer numbers = new LoopReducer(8);
+        Loop numbers = new Loop(8);
         numbers.number(2);
         numbers.number(2);
         numbers.input();
         sheet.row("a number 2 is not made of NAME 2", "2 1 0", numbers.pop(), numbers.pop(), numbers.pop());
-        LoopReducer inputs = new LoopReducer(8);
+        Loop inputs = new Loop(8);
         inputs.input();
         inputs.input();
         sheet.row("INPUT 1 is not made of NAME 1", "1 0", inputs.pop(), inputs.pop());
 
         sheet.sentence("Promise 7", "has it as START or NEXT");
-        LoopReducer x = new LoopReducer(8);
+        Loop x = new Loop(8);
         x.number(5);
         x.carried(0);
         sheet.row("its START stays behind it", "1 0", x.pop(), x.pop());
@@ -322,7 +322,7 @@ public final class EdgesOfNames {
     private static void popOfWhatIsAsked() {
         sheet.sentence("Promise 7", "it is in TEST");
         for (int kind = 0; kind <= 1; kind++) {
-            LoopReducer x = new LoopReducer(8);
+            Loop x = new Loop(8);
             x.number(5);
             x.number(6);
             x.test(kind, 1, 0);
@@ -335,7 +335,7 @@ public final class EdgesOfNames {
             sheet.row("no more", "1 -1 1", x.pop(), x.pop(), x.count(0));
         }
         sheet.sentence("Promise 7", "SHOWN.");
-        LoopReducer x = Sheet.full(8);
+        Loop x = Sheet.full(8);
         for (int name = 29; name >= 0; name--) {
             x.show(name, true);
             sheet.row("what is SHOWN", "-1 " + (name + 1), x.pop(), x.count(0));
@@ -347,7 +347,7 @@ public final class EdgesOfNames {
     // ---- Promises 8 to 11
 
     private static void test() {
-        LoopReducer x = new LoopReducer(8);
+        Loop x = new Loop(8);
         x.number(5);
         x.number(6);
         sheet.sentence("Promise 8", "false: another kind");
@@ -375,7 +375,7 @@ public final class EdgesOfNames {
     }
 
     private static void show() {
-        LoopReducer x = Sheet.full(8);
+        Loop x = Sheet.full(8);
         sheet.sentence("Promise 9", "false: it is so");
         for (int name : new int[] {0, 1, 15, 29}) {
             sheet.due("not SHOWN at first: " + name, x.show(name, false), false);
@@ -389,7 +389,7 @@ public final class EdgesOfNames {
         }
         sheet.due("as bits", x.count(2), 0);
         sheet.sentence("Promise 9", "there is none such.");
-        LoopReducer few = new LoopReducer(8);
+        Loop few = new Loop(8);
         sheet.due("no NAMES", few.show(0, true) || few.show(0, false), false);
         few.number(5);
         few.show(0, true);
@@ -403,13 +403,13 @@ public final class EdgesOfNames {
 
     private static void count() {
         sheet.sentence("Promise 10", "2: SHOWN, as bits");
-        LoopReducer full = Sheet.full(8);
+        Loop full = Sheet.full(8);
         for (int name = 0; name < 30; name++) {
             full.show(name, true);
         }
         sheet.due("all 30", full.count(2), (1 << 30) - 1);
         sheet.sentence("Promise 10", "4: kind of TEST (NONE), 5: its first NAME (NONE), 6: its second one (NONE)");
-        LoopReducer x = new LoopReducer(8);
+        Loop x = new Loop(8);
         x.number(5);
         x.number(6);
         sheet.row("no TEST", "-1 -1 -1", x.count(4), x.count(5), x.count(6));
@@ -434,7 +434,7 @@ public final class EdgesOfNames {
     }
 
     private static void of() {
-        LoopReducer x = new LoopReducer(8);
+        Loop x = new Loop(8);
         x.number(7);
         x.input();
         x.op(Sheet.SUM, 0, 1);
@@ -446,7 +446,7 @@ public final class EdgesOfNames {
                 Sheet.of(x, 4, 2), Sheet.of(x, 5, 2));
         sheet.sentence("Promise 11", "NoSuchElementException: there is none such");
         for (int what = 0; what <= 2; what++) {
-            sheet.row("none yet", "-77", Sheet.of(new LoopReducer(8), 0, what));
+            sheet.row("none yet", "-77", Sheet.of(new Loop(8), 0, what));
             sheet.row("the last one, the NAME behind it", what == 0 ? "5 -77" : what == 1 ? "1 -77" : "5 -77",
                     Sheet.of(x, 5, what), Sheet.of(x, 6, what));
             for (int none : Sheet.NO_NAMES) {

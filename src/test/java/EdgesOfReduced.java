@@ -33,7 +33,7 @@ public final class EdgesOfReduced {
 
     private static void asked() {
         sheet.sentence("Terms", "ASKED are NAMES that are SHOWN or in TEST.");
-        LoopReducer x = Sheet.full(8);
+        Loop x = Sheet.full(8);
         sheet.due("none", x.reduced(0), 0);
         x.show(29, true);
         sheet.due("the last one is SHOWN", x.reduced(0), bits(29));
@@ -59,7 +59,7 @@ public final class EdgesOfReduced {
 
     private static void neitherSteadyNorProductThatGrows() {
         sheet.sentence("Terms", "of a NEEDED one that is neither STEADY nor a PRODUCT that GROWS: what it is made of, its NEXT");
-        LoopReducer x = Sheet.counting(8);
+        Loop x = Sheet.counting(8);
         int start = x.number(9);
         int steady = x.op(SUM, 1, start);
         int steadyProduct = x.op(PRODUCT, 1, start);
@@ -84,7 +84,7 @@ public final class EdgesOfReduced {
             sheet.due("NEEDED for NAME " + names[i], x.reduced(0), wants[i]);
             x.show(names[i], false);
         }
-        LoopReducer y = new LoopReducer(8);
+        Loop y = new Loop(8);
         y.number(1);
         int inCycle = y.carried(0);
         int sum = y.op(SUM, inCycle, 0);
@@ -98,7 +98,7 @@ public final class EdgesOfReduced {
 
     private static void productsThatGrow() {
         sheet.sentence("Terms", "of each NEEDED PRODUCT that GROWS, by numbers");
-        LoopReducer x = Sheet.counting(8);
+        Loop x = Sheet.counting(8);
         int steady = x.op(PRODUCT, 1, 1);
         int first = x.op(PRODUCT, 2, x.number(3));
         int second = x.op(PRODUCT, 2, x.number(5));
@@ -125,7 +125,7 @@ public final class EdgesOfReduced {
 
     private static void degreeAboveZero() {
         sheet.sentence("Terms", "as long as DEGREE is above 0");
-        LoopReducer x = Sheet.counting(8);
+        Loop x = Sheet.counting(8);
         int line = x.op(PRODUCT, 2, 1);
         int square = x.op(PRODUCT, 2, 2);
         int cube = x.op(PRODUCT, square, 2);
@@ -144,7 +144,7 @@ public final class EdgesOfReduced {
 
     private static void notThereYet() {
         sheet.sentence("Terms", "each that is not there yet comes behind the others");
-        LoopReducer x = Sheet.counting(8);
+        Loop x = Sheet.counting(8);
         int square = x.op(PRODUCT, 2, 2);
         int again = x.op(PRODUCT, square, 1);
         int odd = x.op(PRODUCT, x.op(SUM, 2, 3), 1);
@@ -158,7 +158,7 @@ public final class EdgesOfReduced {
         sheet.row("the same FORM twice", "2 " + square + " " + square, x.reduced(1), x.cell(0, 2), x.cell(1, 2));
         x.show(line, true);
         sheet.row("2 n is unlike 2 n + 1", "3 1 -2 " + line, x.reduced(1), x.cell(2, 0), x.cell(2, 1), x.cell(2, 2));
-        LoopReducer y = Sheet.counting(8);
+        Loop y = Sheet.counting(8);
         int oddFirst = y.op(PRODUCT, y.op(SUM, 2, 3), 1);
         int squareNext = y.op(PRODUCT, 2, 2);
         int cubeLast = y.op(PRODUCT, squareNext, 2);
@@ -175,8 +175,8 @@ public final class EdgesOfReduced {
     }
 
     /** NAMES 0: 3, 1: 3 and 3 n, 2: its NEXT, 3: its square, 4: its cube, then each three times the one ahead of it. */
-    private static LoopReducer manyCells() {
-        LoopReducer x = new LoopReducer(16);
+    private static Loop manyCells() {
+        Loop x = new Loop(16);
         x.number(3);
         x.carried(0);
         x.op(SUM, 1, 0);
@@ -195,7 +195,7 @@ public final class EdgesOfReduced {
 
     private static void mostCells() {
         sheet.sentence("Terms", "CELLS, from 0 on, unlike FORMS");
-        LoopReducer x = manyCells();
+        Loop x = manyCells();
         sheet.row("of 27 PRODUCTS", "80 81 27 0", x.reduced(1), x.reduced(4), x.reduced(3), x.reduced(5));
         for (int name = 4; name < 30; name++) {
             int cell = 2 + 3 * (name - 4);
@@ -208,12 +208,11 @@ public final class EdgesOfReduced {
 
     private static void turnByTurn() {
         sheet.sentence("Terms", "A CELL's FORM becomes, turn by turn, itself and what is its FORM without c0.");
-        LoopReducer x = manyCells();
-        int turns = x.run(0, 0, 0);
-        String seen = Sheet.seen(x);
-        sheet.due("TURNS", x.runReduced(0, 0, 0), turns);
-        sheet.due("what is seen", Sheet.seen(x), seen);
-        LoopReducer y = Sheet.counting(4);
+        Loop x = manyCells();
+        Loop same = manyCells();
+        sheet.due("TURNS", x.runReduced(0, 0, 0), same.run(0, 0, 0));
+        sheet.due("what is seen", Sheet.seen(x), Sheet.seen(same));
+        Loop y = Sheet.counting(4);
         int a = y.input();
         int cube = y.op(PRODUCT, y.op(PRODUCT, 2, 2), y.op(SUM, 2, a));
         y.show(cube, true);
@@ -227,7 +226,7 @@ public final class EdgesOfReduced {
     // ---- Promises 17 to 19
 
     private static void reduced() {
-        LoopReducer x = Sheet.counting(8);
+        Loop x = Sheet.counting(8);
         int steadySum = x.op(SUM, 1, 1);
         int sum = x.op(SUM, 2, 1);
         int difference = x.op(DIFFERENCE, 2, 1);
@@ -243,7 +242,7 @@ public final class EdgesOfReduced {
         x.show(product, false);
         sheet.sentence("Promise 17", "2: SUMS and DIFFERENCES of all NAMES, 3: PRODUCTS of all");
         sheet.row("NEEDED or not", "5 4", x.reduced(2), x.reduced(3));
-        LoopReducer none = Sheet.full(8);
+        Loop none = Sheet.full(8);
         sheet.row("of NUMBERS alone", "0 0", none.reduced(2), none.reduced(3));
         sheet.sentence("Promise 17", "4: SUMS and DIFFERENCES that are NEEDED and not STEADY, and CELLS, together");
         sheet.due("none is NEEDED", x.reduced(4), 0);
@@ -266,14 +265,14 @@ public final class EdgesOfReduced {
     }
 
     private static void cell() {
-        LoopReducer x = Sheet.counting(8);
+        Loop x = Sheet.counting(8);
         int square = x.op(PRODUCT, 2, 2);
         x.show(square, true);
         sheet.sentence("Promise 18", "1: the CELL of its FORM without c0 (-2: that is of DEGREE 0)");
         sheet.row("of n n, of 2 n + 1", "1 -2", x.cell(0, 1), x.cell(1, 1));
         sheet.sentence("Promise 18", "NONE: there is none such");
         for (int what = 0; what <= 2; what++) {
-            sheet.row("no CELLS", "-1 -1", new LoopReducer(8).cell(0, what), Sheet.full(8).cell(0, what));
+            sheet.row("no CELLS", "-1 -1", new Loop(8).cell(0, what), Sheet.full(8).cell(0, what));
             for (int cell : new int[] {2, 3, -1, -2, 89, 90, 91, Integer.MIN_VALUE, Integer.MAX_VALUE}) {
                 sheet.due("cell(" + cell + ", " + what + ")", x.cell(cell, what), NONE);
             }
@@ -288,7 +287,7 @@ public final class EdgesOfReduced {
     }
 
     private static void needed() {
-        LoopReducer x = Sheet.counting(8);
+        Loop x = Sheet.counting(8);
         int product = x.op(PRODUCT, 2, 1);
         sheet.sentence("Promise 19", "no TEST.");
         sheet.row("needed", "-1 -1 -1", x.needed(0), x.needed(2), x.needed(product));
@@ -303,7 +302,7 @@ public final class EdgesOfReduced {
         for (int none : Sheet.NO_NAMES) {
             sheet.due("needed(" + none + ")", x.needed(none), NONE);
         }
-        LoopReducer full = Sheet.full(8);
+        Loop full = Sheet.full(8);
         full.test(Sheet.UNLIKE, 0, 1);
         sheet.row("the 30th, behind it", (1 << 29) + " -1", full.needed(29), full.needed(30));
     }

@@ -34,7 +34,7 @@ public final class EdgesOfRuns {
     }
 
     /** Both sorts of RUN answer the same and see the same. */
-    private static void runs(String what, LoopReducer x, int a, int want, String seen) {
+    private static void runs(String what, Loop x, int a, int want, String seen) {
         sheet.due("run, " + what, x.run(a, 0, 0), want);
         sheet.due("seen, " + what, Sheet.seen(x), seen);
         sheet.due("runReduced, " + what, x.runReduced(a, 0, 0), want);
@@ -46,7 +46,7 @@ public final class EdgesOfRuns {
     private static void unlikeOrBelow() {
         sheet.sentence("Terms", "TEST: whether a NAME is UNLIKE another one (0), or below it (1)");
         for (int width : new int[] {4, 16}) {
-            LoopReducer x = new LoopReducer(width);
+            Loop x = new Loop(width);
             x.number(0);
             x.number(1);
             x.number(-2);
@@ -64,7 +64,7 @@ public final class EdgesOfRuns {
 
     private static void numbersForInputs() {
         sheet.sentence("Terms", "A RUN by numbers for the INPUTS");
-        LoopReducer x = Sheet.counting(8);
+        Loop x = Sheet.counting(8);
         int a = x.input();
         int b = x.input();
         int c = x.input();
@@ -79,7 +79,7 @@ public final class EdgesOfRuns {
             sheet.due("modulo M", Sheet.seen(x), "255 0");
         }
         sheet.row("of a 256", "0 0", x.run(256, 0, 0), x.runReduced(256, 0, 0));
-        LoopReducer y = Sheet.counting(8);
+        Loop y = Sheet.counting(8);
         int start = y.input();
         int last = y.input();
         int late = Sheet.later(y, start, 2);
@@ -95,7 +95,7 @@ public final class EdgesOfRuns {
 
     private static void startThenNext() {
         sheet.sentence("Terms", "a CARRIED one is its START in TURN 0, later what its NEXT was in the TURN ahead");
-        LoopReducer x = Sheet.counting(4);
+        Loop x = Sheet.counting(4);
         int a = x.input();
         int late = Sheet.later(x, a, 2);
         int later = Sheet.later(x, a, late);
@@ -108,7 +108,7 @@ public final class EdgesOfRuns {
         x.show(back, true);
         x.test(UNLIKE, 2, x.number(4));
         runs("four TURNS", x, 9, 4, "9 9 0 9 0 9 9 0 1 0 0 9 2 1 9 0");
-        LoopReducer y = new LoopReducer(4);
+        Loop y = new Loop(4);
         y.number(1);
         y.number(15);
         int up = y.carried(1);
@@ -123,7 +123,7 @@ public final class EdgesOfRuns {
 
     private static void overAheadOfIt() {
         sheet.sentence("Terms", "If TEST does not hold in a TURN, the RUN is over ahead of it");
-        LoopReducer x = Sheet.counting(8);
+        Loop x = Sheet.counting(8);
         int a = x.input();
         x.show(2, true);
         x.test(UNLIKE, 2, a);
@@ -138,7 +138,7 @@ public final class EdgesOfRuns {
 
     private static void seenByNumbers() {
         sheet.sentence("Terms", "else what is SHOWN is seen, by numbers");
-        LoopReducer x = new LoopReducer(8);
+        Loop x = new Loop(8);
         for (int i = 0; i < 29; i++) {
             x.number(100 + i);
         }
@@ -156,7 +156,7 @@ public final class EdgesOfRuns {
 
     private static void cutAheadOf300() {
         sheet.sentence("Terms", "It is CUT ahead of TURN 300 (TEST is not asked in it).");
-        LoopReducer x = Sheet.counting(16);
+        Loop x = Sheet.counting(16);
         int a = x.input();
         for (int kind = 0; kind <= 1; kind++) {
             x.test(kind, 2, a);
@@ -178,7 +178,7 @@ public final class EdgesOfRuns {
 
     private static void aheadOfUnlikeAlone() {
         sheet.sentence("Terms", "for TEST 0 (UNLIKE) of two NAMES with FORMS");
-        LoopReducer x = Sheet.counting(8);
+        Loop x = Sheet.counting(8);
         int a = x.input();
         x.test(UNLIKE, 2, a);
         sheet.due("UNLIKE", x.ahead(9, 0, 0), 9);
@@ -201,7 +201,7 @@ public final class EdgesOfRuns {
 
     private static void aheadOfDelayZero() {
         sheet.sentence("Terms", "of DELAY 0, the first one's less the second one's");
-        LoopReducer x = Sheet.counting(8);
+        Loop x = Sheet.counting(8);
         int nine = x.number(9);
         int last = x.number(-1);
         int late = Sheet.later(x, nine, 2);
@@ -217,7 +217,7 @@ public final class EdgesOfRuns {
 
     private static void aheadOfDegreeOne() {
         sheet.sentence("Terms", "of DEGREE 1 at most");
-        LoopReducer x = Sheet.counting(8);
+        Loop x = Sheet.counting(8);
         int square = x.op(PRODUCT, 2, 2);
         int cube = x.op(PRODUCT, square, 2);
         int nine = x.number(9);
@@ -241,13 +241,13 @@ public final class EdgesOfRuns {
 
     private static void firstTurnAhead() {
         sheet.sentence("Terms", "the first TURN in which that is 0 by numbers for the INPUTS");
-        LoopReducer x = Sheet.counting(4);
-        int a = x.input();
-        int b = x.input();
-        int scaled = x.op(PRODUCT, 2, b);
-        for (int way = 0; way <= 1; way++) {
-            x.test(UNLIKE, way == 0 ? scaled : a, way == 0 ? a : scaled);
-            for (int one = 0; one < 16; one++) {
+        for (int one = 0; one < 16; one++) {
+            Loop x = Sheet.counting(4);
+            int a = x.input();
+            int b = x.input();
+            int scaled = x.op(PRODUCT, 2, b);
+            for (int way = 0; way <= 1; way++) {
+                x.test(UNLIKE, way == 0 ? scaled : a, way == 0 ? a : scaled);
                 for (int step = 0; step < 16; step++) {
                     int first = NONE;
                     for (int n = 15; n >= 0; n--) {
@@ -258,7 +258,7 @@ public final class EdgesOfRuns {
                 }
             }
         }
-        LoopReducer y = Sheet.counting(16);
+        Loop y = Sheet.counting(16);
         int c = y.input();
         y.test(UNLIKE, 2, c);
         sheet.row("behind TURN 300, up to M - 1", "299 300 301 65535 0", y.ahead(299, 0, 0), y.ahead(300, 0, 0),
@@ -267,7 +267,7 @@ public final class EdgesOfRuns {
 
     private static void swappedToWhatGrows() {
         sheet.sentence("Terms", "TEST may be SWAPPED to a NAME y that GROWS, of DEGREE 1");
-        LoopReducer x = Sheet.counting(8);
+        Loop x = Sheet.counting(8);
         int a = x.input();
         int b = x.input();
         int scaled = x.op(PRODUCT, 2, b);
@@ -288,13 +288,13 @@ public final class EdgesOfRuns {
 
     private static void witnessIsEarlier() {
         sheet.sentence("Terms", "the first TURN in which that would not hold, if it is an earlier one");
-        LoopReducer x = Sheet.counting(4);
-        int a = x.input();
-        int b = x.input();
-        int c = x.input();
-        int y = x.op(SUM, x.op(PRODUCT, 2, b), c);
-        x.test(UNLIKE, 2, a);
         for (int turn = 0; turn < 16; turn++) {
+            Loop x = Sheet.counting(4);
+            int a = x.input();
+            int b = x.input();
+            int c = x.input();
+            int y = x.op(SUM, x.op(PRODUCT, 2, b), c);
+            x.test(UNLIKE, 2, a);
             for (int step = 0; step < 16; step++) {
                 int witness = NONE;
                 for (int n = turn - 1; n >= 0; n--) {
@@ -304,7 +304,7 @@ public final class EdgesOfRuns {
                 sheet.due("modulo M", x.swapped(y, turn + 16, step - 16, -1), witness);
             }
         }
-        LoopReducer z = Sheet.counting(16);
+        Loop z = Sheet.counting(16);
         int d = z.input();
         int half = z.op(PRODUCT, 2, z.number(32768));
         z.test(UNLIKE, 2, d);
@@ -318,7 +318,7 @@ public final class EdgesOfRuns {
 
     private static void run() {
         sheet.sentence("Promise 20", "NONE: no TEST");
-        LoopReducer x = Sheet.counting(8);
+        Loop x = Sheet.counting(8);
         x.show(2, true);
         sheet.row("run", "-1 -1 0", x.run(0, 0, 0), x.run(5, 5, 5), x.seen(NONE));
         sheet.sentence("Promise 20", "-2: it was CUT.");
@@ -335,7 +335,7 @@ public final class EdgesOfRuns {
 
     private static void runReduced() {
         sheet.sentence("Promise 21", "A RUN in which what is NEEDED alone is reckoned");
-        LoopReducer x = Sheet.counting(8);
+        Loop x = Sheet.counting(8);
         int a = x.input();
         int b = x.input();
         int steady = x.op(PRODUCT, a, b);
@@ -366,7 +366,7 @@ public final class EdgesOfRuns {
         x.run(6, 3, 0);
         sheet.due("all of them", all, Sheet.seen(x));
         sheet.row("what is STEADY is by the numbers of this RUN", "0 6 18", x.seen(0), x.seen(3), x.seen(4));
-        LoopReducer first = new LoopReducer(8);
+        Loop first = new Loop(8);
         first.number(5);
         first.number(6);
         first.show(0, true);
@@ -376,7 +376,7 @@ public final class EdgesOfRuns {
         sheet.due("ahead of any run, of STEADY ones", first.runReduced(0, 0, 0), 1);
         sheet.due("what is seen", Sheet.seen(first), "5 11");
         sheet.sentence("Promise 21", "PRODUCTS that GROW of CELLS: likewise.");
-        LoopReducer y = new LoopReducer(8);
+        Loop y = new Loop(8);
         sheet.row("no NAMES, no TEST", "-1 0", y.runReduced(0, 0, 0), y.seen(NONE));
         y = Sheet.counting(8);
         y.show(y.op(PRODUCT, 2, 2), true);
@@ -389,7 +389,7 @@ public final class EdgesOfRuns {
     }
 
     private static void seen() {
-        LoopReducer x = Sheet.counting(16);
+        Loop x = Sheet.counting(16);
         int a = x.input();
         sheet.sentence("Promise 22", "(i NONE; 0 ahead of any)");
         sheet.row("ahead of any", "0 -1 -1", x.seen(NONE), x.seen(0), x.seen(-2));
@@ -440,7 +440,7 @@ public final class EdgesOfRuns {
     }
 
     private static void ahead() {
-        LoopReducer x = Sheet.counting(8);
+        Loop x = Sheet.counting(8);
         int a = x.input();
         int even = x.op(SUM, 2, 2);
         sheet.sentence("Promise 23", "-2: TEST is not so, there is none.");
@@ -460,7 +460,7 @@ public final class EdgesOfRuns {
     }
 
     private static void swapped() {
-        LoopReducer x = Sheet.counting(8);
+        Loop x = Sheet.counting(8);
         int a = x.input();
         int even = x.op(SUM, 2, 2);
         sheet.sentence("Promise 24", "-2: TEST AHEAD tells no TURN");
@@ -488,21 +488,17 @@ public final class EdgesOfRuns {
     /** The last call that counts must be as good as the first one. */
     private static void after511Calls() {
         sheet.sentence("What it is", "An object is used for at most 512 calls after it has been made");
-        LoopReducer x = Sheet.counting(8);
-        int calls = 5;
+        Loop x = Sheet.counting(8);
         int a = x.input();
         x.test(UNLIKE, 2, a);
         x.show(x.op(PRODUCT, 2, 2), true);
-        calls += 4;
-        for (int round = 0; calls < 509; round++) {
+        for (int round = 0; x.callsLeft() > 3; round++) {
             int made = round % 2 == 0 ? x.op(PRODUCT, 2, a) : x.pop();
             sheet.due("NAME 6 comes, or 6 are left", made, 6);
             sheet.due("reduced", x.reduced(1), 2);
             sheet.due("runReduced", x.runReduced(3, 0, 0), 3);
             sheet.due("told", x.told(5, round, 0, 0, 0), round * round % 256);
-            calls += 4;
         }
-        sheet.due("calls", calls, 509);
-        sheet.row("calls 510 to 512", "3 4 512", x.run(3, 0, 0), x.seen(2), calls + 3);
+        sheet.row("calls 510 to 512", "3 4 3 0", x.run(3, 0, 0), x.seen(2), x.seen(NONE), x.callsLeft());
     }
 }

@@ -140,7 +140,8 @@ public final class FaceRuns {
         Random chance = new Random(5);
         for (int run = 0; run < 400; run++) {
             LoopReducer x = new LoopReducer(some(chance));
-            for (int call = 0; call < 512; call++) {
+            // Some of these make two calls.
+            for (int call = 0; call < 480; call++) {
                 try {
                     callSome(x, chance, chance.nextInt(32));
                 } catch (RuntimeException e) {

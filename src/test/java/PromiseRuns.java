@@ -67,13 +67,13 @@ public final class PromiseRuns {
         }
     }
 
-    private static void kindDegreeDelay(String what, LoopReducer x, int name, String want) {
+    private static void kindDegreeDelay(String what, Loop x, int name, String want) {
         dueRow("form of " + what, want, x.form(name, 0), x.form(name, 1), x.form(name, 2));
     }
 
     /** NAMES 0: number 0, 1: number 1, 2: a counter 0, 1, 2 .., 3: the counter and 1. */
-    private static LoopReducer counting(int width) {
-        LoopReducer x = new LoopReducer(width);
+    private static Loop counting(int width) {
+        Loop x = new Loop(width);
         x.number(0);
         x.number(1);
         x.carried(0);
@@ -82,7 +82,7 @@ public final class PromiseRuns {
         return x;
     }
 
-    private static int of(LoopReducer x, int name, int what) {
+    private static int of(Loop x, int name, int what) {
         try {
             return x.of(name, what);
         } catch (NoSuchElementException e) {
@@ -94,10 +94,10 @@ public final class PromiseRuns {
         int[] widths = {Integer.MIN_VALUE, -1, 0, 3, 4, 5, 8, 15, 16, 17, Integer.MAX_VALUE};
         int[] ms = {16, 16, 16, 16, 16, 32, 256, 32768, 65536, 65536, 65536};
         for (int i = 0; i < widths.length; i++) {
-            LoopReducer x = new LoopReducer(widths[i]);
+            Loop x = new Loop(widths[i]);
             due("M of width " + widths[i], x.count(7), ms[i]);
         }
-        LoopReducer x = new LoopReducer(8);
+        Loop x = new Loop(8);
         dueRow("1: counts of a new one", "0 0 0 0 -1 -1 -1",
                 x.count(0), x.count(1), x.count(2), x.count(3), x.count(4), x.count(5), x.count(6));
         dueRow("1: reduced of a new one", "0 0 0 0 0 0",
@@ -108,7 +108,7 @@ public final class PromiseRuns {
     }
 
     private static void numbers() {
-        LoopReducer x = new LoopReducer(4);
+        Loop x = new Loop(4);
         dueRow("2: number", "0 1 2 3 4", x.number(15), x.number(16), x.number(-1), x.number(Integer.MIN_VALUE),
                 x.number(Integer.MAX_VALUE));
         dueRow("2: modulo M", "15 0 15 0 15", of(x, 0, 1), of(x, 1, 1), of(x, 2, 1), of(x, 3, 1), of(x, 4, 1));
@@ -120,12 +120,12 @@ public final class PromiseRuns {
     }
 
     private static void inputs() {
-        LoopReducer x = new LoopReducer(8);
+        Loop x = new Loop(8);
         dueRow("3: input", "0 1 2 -1", x.input(), x.input(), x.input(), x.input());
         dueRow("3: which", "0 1 2", of(x, 0, 1), of(x, 1, 1), of(x, 2, 1));
         dueRow("3: popped and again", "2 2 3 4", x.pop(), x.input(), x.number(9), x.number(9));
         dueRow("3: which, counts", "2 3 5", of(x, 2, 1), x.count(1), x.count(0));
-        LoopReducer full = new LoopReducer(8);
+        Loop full = new Loop(8);
         for (int i = 0; i < 30; i++) {
             full.number(i);
         }
@@ -133,7 +133,7 @@ public final class PromiseRuns {
     }
 
     private static void carriedOnes() {
-        LoopReducer x = new LoopReducer(8);
+        Loop x = new Loop(8);
         due("4: no such start", x.carried(0), NONE);
         x.number(7);
         x.input();
@@ -145,7 +145,7 @@ public final class PromiseRuns {
     }
 
     private static void ops() {
-        LoopReducer x = new LoopReducer(8);
+        Loop x = new Loop(8);
         due("5: no names", x.op(SUM, 0, 0), NONE);
         x.number(7);
         x.number(3);
@@ -158,7 +158,7 @@ public final class PromiseRuns {
     }
 
     private static void nexts() {
-        LoopReducer x = new LoopReducer(8);
+        Loop x = new Loop(8);
         x.number(7);
         x.carried(0);
         due("6: it is itself at first", x.next(1, 1), false);
@@ -171,7 +171,7 @@ public final class PromiseRuns {
     }
 
     private static void pops() {
-        LoopReducer x = new LoopReducer(8);
+        Loop x = new Loop(8);
         due("7: there is none", x.pop(), NONE);
         x.number(7);
         x.carried(0);
@@ -196,7 +196,7 @@ public final class PromiseRuns {
         due("7: it is in test, second", x.pop(), NONE);
         x.test(0, 0, 0);
         dueRow("7: down to what is in test", "3 2 1 -1", x.pop(), x.pop(), x.pop(), x.pop());
-        LoopReducer start = new LoopReducer(8);
+        Loop start = new Loop(8);
         start.number(1);
         start.number(2);
         start.op(SUM, 0, 1);
@@ -204,7 +204,7 @@ public final class PromiseRuns {
     }
 
     private static void tests() {
-        LoopReducer x = new LoopReducer(8);
+        Loop x = new Loop(8);
         due("8: no names", x.test(0, 0, 0), false);
         x.number(7);
         x.number(8);
@@ -217,7 +217,7 @@ public final class PromiseRuns {
     }
 
     private static void shows() {
-        LoopReducer x = new LoopReducer(8);
+        Loop x = new Loop(8);
         due("9: no names", x.show(0, true), false);
         x.number(7);
         x.number(8);
@@ -231,7 +231,7 @@ public final class PromiseRuns {
     }
 
     private static void counts() {
-        LoopReducer x = counting(8);
+        Loop x = counting(8);
         x.input();
         x.show(0, true);
         x.show(4, true);
@@ -241,7 +241,7 @@ public final class PromiseRuns {
     }
 
     private static void ofs() {
-        LoopReducer x = counting(8);
+        Loop x = counting(8);
         x.input();
         x.op(DIFFERENCE, 4, 2);
         x.op(PRODUCT, 2, 4);
@@ -252,14 +252,14 @@ public final class PromiseRuns {
     }
 
     private static void cycles() {
-        LoopReducer x = counting(8);
+        Loop x = counting(8);
         x.op(SUM, 2, 3);
         dueRow("12: cycle", "1 12 12 16 -1 -1", x.cycle(0), x.cycle(2), x.cycle(3), x.cycle(4), x.cycle(5), x.cycle(-1));
         x.next(2, 4);
         dueRow("12: a greater one", "28 28 28", x.cycle(2), x.cycle(3), x.cycle(4));
         x.next(2, 0);
         dueRow("12: none", "4 8 16", x.cycle(2), x.cycle(3), x.cycle(4));
-        LoopReducer full = new LoopReducer(8);
+        Loop full = new Loop(8);
         full.number(0);
         for (int i = 1; i < 30; i++) {
             full.carried(0);
@@ -271,7 +271,7 @@ public final class PromiseRuns {
     }
 
     private static void kindsAndDelays() {
-        LoopReducer x = counting(8);
+        Loop x = counting(8);
         kindDegreeDelay("a number", x, 1, "0 0 0");
         kindDegreeDelay("a counter", x, 2, "1 1 0");
         kindDegreeDelay("a counter and 1", x, 3, "1 1 0");
@@ -306,7 +306,7 @@ public final class PromiseRuns {
         kindDegreeDelay("later of what is 0 and starts as 0", x, two, "0 0 0");
         kindDegreeDelay("what was later of it", x, again, "0 0 0");
         dueRow("13: wrong ones", "-1 -1 -1 -1", x.form(-1, 0), x.form(x.count(0), 0), x.form(0, -1), x.form(0, 5));
-        LoopReducer y = new LoopReducer(8);
+        Loop y = new Loop(8);
         y.input();
         y.carried(0);
         y.next(1, 0);
@@ -317,7 +317,7 @@ public final class PromiseRuns {
     }
 
     private static void turningCycles() {
-        LoopReducer x = counting(4);
+        Loop x = counting(4);
         int second = x.carried(1);
         x.next(second, x.op(SUM, second, 2));
         kindDegreeDelay("added up twice", x, second, "1 2 0");
@@ -334,7 +334,7 @@ public final class PromiseRuns {
         x.next(fourth, x.op(SUM, fourth, late));
         kindDegreeDelay("of what comes late", x, fourth, "4 -2 -2");
 
-        LoopReducer y = new LoopReducer(4);
+        Loop y = new Loop(4);
         y.number(5);
         y.number(13);
         y.number(3);
@@ -363,7 +363,7 @@ public final class PromiseRuns {
         dueRow("13: of that cycle", "5 10 0 5", y.value(3, 0, 0, 0, 0), y.value(twice, 0, 0, 0, 0),
                 y.value(none, 0, 0, 0, 0), y.value(other, 0, 0, 0, 0));
 
-        LoopReducer z = new LoopReducer(8);
+        Loop z = new Loop(8);
         z.number(1);
         int steadyOne = z.op(PRODUCT, 0, 0);
         int carried = z.carried(0);
@@ -379,7 +379,7 @@ public final class PromiseRuns {
     }
 
     private static void higherDegrees() {
-        LoopReducer w = counting(8);
+        Loop w = counting(8);
         int cube = w.op(PRODUCT, w.op(PRODUCT, 2, 2), 2);
         int late = w.carried(1);
         w.next(late, cube);
@@ -402,7 +402,7 @@ public final class PromiseRuns {
     }
 
     private static void productsWithoutForm() {
-        LoopReducer x = counting(8);
+        Loop x = counting(8);
         int square = x.op(PRODUCT, 2, 2);
         kindDegreeDelay("n n", x, square, "1 2 0");
         int cube = x.op(PRODUCT, square, 2);
@@ -421,7 +421,7 @@ public final class PromiseRuns {
         kindDegreeDelay("128 times 2 n n n is 0", x, flat, "0 0 0");
         kindDegreeDelay("0 in all times n n n", x, x.op(PRODUCT, flat, cube), "0 0 0");
 
-        LoopReducer y = new LoopReducer(8);
+        Loop y = new Loop(8);
         int a = y.input();
         int b = y.input();
         int a2 = y.op(PRODUCT, a, a);
@@ -442,7 +442,7 @@ public final class PromiseRuns {
     }
 
     private static void rounds() {
-        LoopReducer x = new LoopReducer(8);
+        Loop x = new Loop(8);
         x.number(4);
         x.number(5);
         x.input();
@@ -469,7 +469,7 @@ public final class PromiseRuns {
     }
 
     private static void alikeForms() {
-        LoopReducer x = counting(8);
+        Loop x = counting(8);
         int a = x.input();
         int one = x.op(PRODUCT, 2, a);
         int other = x.op(PRODUCT, a, 2);
@@ -499,7 +499,7 @@ public final class PromiseRuns {
     }
 
     private static void polys() {
-        LoopReducer x = new LoopReducer(8);
+        Loop x = new Loop(8);
         int a = x.input();
         int b = x.input();
         int c = x.input();
@@ -528,7 +528,7 @@ public final class PromiseRuns {
     }
 
     private static void values() {
-        LoopReducer x = new LoopReducer(8);
+        Loop x = new Loop(8);
         x.input();
         x.input();
         x.input();
@@ -545,7 +545,7 @@ public final class PromiseRuns {
     }
 
     private static void tolds() {
-        LoopReducer x = counting(16);
+        Loop x = counting(16);
         int square = x.op(PRODUCT, 2, 2);
         int cube = x.op(PRODUCT, square, 2);
         dueRow("16: powers", "0 1 27 1000", x.told(cube, 0, 0, 0, 0), x.told(cube, 1, 0, 0, 0),
@@ -569,7 +569,7 @@ public final class PromiseRuns {
     }
 
     private static void reduced() {
-        LoopReducer x = counting(8);
+        Loop x = counting(8);
         int a = x.input();
         int steady = x.op(PRODUCT, a, a);
         int grows = x.op(PRODUCT, 2, steady);
@@ -597,7 +597,7 @@ public final class PromiseRuns {
     }
 
     private static void cells() {
-        LoopReducer x = counting(8);
+        Loop x = counting(8);
         int square = x.op(PRODUCT, 2, 2);
         int cube = x.op(PRODUCT, square, 2);
         int two = x.number(2);
@@ -621,7 +621,7 @@ public final class PromiseRuns {
         x.show(cube, false);
         dueRow("18: needed no more", "1 1 -2 " + oddAgain + " -1", x.reduced(1), x.cell(0, 0), x.cell(0, 1), x.cell(0, 2),
                 x.cell(1, 0));
-        LoopReducer z = counting(8);
+        Loop z = counting(8);
         int twiceAndOne = z.op(PRODUCT, z.op(SUM, z.op(SUM, 2, 2), 1), 1);
         int squared = z.op(PRODUCT, 2, 2);
         z.show(twiceAndOne, true);
@@ -631,7 +631,7 @@ public final class PromiseRuns {
         z.test(0, 2, z.number(4));
         dueRow("18: by turns", "4 1 0 3 1 5 4 7 9", z.runReduced(0, 0, 0), z.seen(0), z.seen(1), z.seen(2), z.seen(3),
                 z.seen(4), z.seen(5), z.seen(6), z.seen(7));
-        LoopReducer y = counting(8);
+        Loop y = counting(8);
         int stay = y.op(PRODUCT, 2, 1);
         int first = y.op(PRODUCT, stay, 2);
         y.show(first, true);
@@ -642,7 +642,7 @@ public final class PromiseRuns {
     }
 
     private static void neededOnes() {
-        LoopReducer x = counting(8);
+        Loop x = counting(8);
         int line = x.op(PRODUCT, 2, 1);
         int sum = x.op(SUM, line, 2);
         due("19: no test", x.needed(2), NONE);
@@ -656,7 +656,7 @@ public final class PromiseRuns {
     }
 
     private static void runs() {
-        LoopReducer x = counting(8);
+        Loop x = counting(8);
         int a = x.input();
         dueRow("20: no test", "-1 -1", x.run(0, 0, 0), x.runReduced(0, 0, 0));
         x.test(0, 2, a);
@@ -669,7 +669,7 @@ public final class PromiseRuns {
         due("20: unlike itself", x.run(0, 0, 0), 0);
         x.test(0, 0, 1);
         due("20: cut", x.run(0, 0, 0), -2);
-        LoopReducer y = counting(16);
+        Loop y = counting(16);
         int last = y.number(300);
         y.test(0, 2, last);
         dueRow("20: test is not asked in turn 300", "-2 -2", y.run(0, 0, 0), y.runReduced(0, 0, 0));
@@ -679,7 +679,7 @@ public final class PromiseRuns {
     }
 
     private static void reducedRuns() {
-        LoopReducer x = counting(8);
+        Loop x = counting(8);
         int a = x.input();
         int b = x.input();
         int square = x.op(PRODUCT, 2, 2);
@@ -708,7 +708,7 @@ public final class PromiseRuns {
         }
         due("21: n n in turn 10", x.seen(20), 100);
         dueRow("21: another run", "3 6", x.runReduced(3, 1, 0), x.seen(-1));
-        LoopReducer y = new LoopReducer(8);
+        Loop y = new Loop(8);
         y.input();
         y.carried(y.number(2));
         y.next(2, y.op(DIFFERENCE, 2, y.number(-1)));
@@ -721,7 +721,7 @@ public final class PromiseRuns {
     }
 
     private static void seen() {
-        LoopReducer x = counting(8);
+        Loop x = counting(8);
         dueRow("22: ahead of any", "0 -1 -1", x.seen(-1), x.seen(0), x.seen(-2));
         int a = x.input();
         x.show(3, true);
@@ -747,7 +747,7 @@ public final class PromiseRuns {
     }
 
     private static void aheads() {
-        LoopReducer x = counting(16);
+        Loop x = counting(16);
         int a = x.input();
         int b = x.input();
         int scaled = x.op(PRODUCT, 2, b);
@@ -780,7 +780,7 @@ public final class PromiseRuns {
     }
 
     private static void swaps() {
-        LoopReducer x = counting(8);
+        Loop x = counting(8);
         int a = x.input();
         int b = x.input();
         int scaled = x.op(PRODUCT, 2, b);

@@ -93,16 +93,16 @@ final class Sheet {
     }
 
     /** KIND, DEGREE, DELAY. */
-    void form(String what, LoopReducer x, int name, String want) {
+    void form(String what, Loop x, int name, String want) {
         row("form of " + what, want, x.form(name, 0), x.form(name, 1), x.form(name, 2));
     }
 
-    void wild(String what, LoopReducer x, int name) {
+    void wild(String what, Loop x, int name) {
         form(what, x, name, "4 -2 -2");
     }
 
     /** c0, c1, c2, c3 by numbers. */
-    void values(String what, LoopReducer x, int name, String want) {
+    void values(String what, Loop x, int name, String want) {
         row("c0 to c3 of " + what, want, x.value(name, 0, 0, 0, 0), x.value(name, 1, 0, 0, 0), x.value(name, 2, 0, 0, 0),
                 x.value(name, 3, 0, 0, 0));
     }
@@ -115,7 +115,7 @@ final class Sheet {
         }
     }
 
-    static int of(LoopReducer x, int name, int what) {
+    static int of(Loop x, int name, int what) {
         try {
             return x.of(name, what);
         } catch (NoSuchElementException e) {
@@ -124,7 +124,7 @@ final class Sheet {
     }
 
     /** All that the calls of NAMES tell, to see that a refused call leaves it as it was. */
-    static String state(LoopReducer x) {
+    static String state(Loop x) {
         StringBuilder state = new StringBuilder();
         for (int what = 0; what <= 7; what++) {
             state.append(x.count(what)).append(' ');
@@ -136,7 +136,7 @@ final class Sheet {
     }
 
     /** What was seen, in a row. */
-    static String seen(LoopReducer x) {
+    static String seen(Loop x) {
         int[] seen = new int[x.seen(NONE)];
         for (int i = 0; i < seen.length; i++) {
             seen[i] = x.seen(i);
@@ -145,8 +145,8 @@ final class Sheet {
     }
 
     /** 30 NUMBERS: 0, 1, 2 .. */
-    static LoopReducer full(int width) {
-        LoopReducer x = new LoopReducer(width);
+    static Loop full(int width) {
+        Loop x = new Loop(width);
         for (int i = 0; i < 30; i++) {
             x.number(i);
         }
@@ -154,8 +154,8 @@ final class Sheet {
     }
 
     /** NAMES 0: number 0, 1: number 1, 2: a counter 0, 1, 2 .., 3: the counter and 1. */
-    static LoopReducer counting(int width) {
-        LoopReducer x = new LoopReducer(width);
+    static Loop counting(int width) {
+        Loop x = new Loop(width);
         x.number(0);
         x.number(1);
         x.carried(0);
@@ -165,14 +165,14 @@ final class Sheet {
     }
 
     /** A CARRIED one with its NEXT. */
-    static int later(LoopReducer x, int start, int next) {
+    static int later(Loop x, int start, int next) {
         int name = x.carried(start);
         x.next(name, next);
         return name;
     }
 
     /** A NAME without FORM: it is squared turn by turn. */
-    static int squaring(LoopReducer x, int start) {
+    static int squaring(Loop x, int start) {
         int name = x.carried(start);
         x.next(name, x.op(PRODUCT, name, name));
         return name;
