@@ -15,6 +15,7 @@ public final class EdgesOfForms {
         numbersThatAreNotZero();
         risingCodes();
         fullPolys();
+        fullPolysOfNeighbours();
         whatFormsTell();
         fromItsDelayOn();
         degrees();
@@ -167,6 +168,31 @@ public final class EdgesOfForms {
         int again = x.op(SUM, x.op(DIFFERENCE, grows, grows), fewBehind);
         sheet.row("the same again", Sheet.row(fewBehind, 84, 1), x.form(again, 4), x.poly(again, 0, NONE, 0),
                 x.poly(again, 1, NONE, 0));
+    }
+
+    /** As above, of the last POLY of a NAME and the first one of the NAME behind it. */
+    private static void fullPolysOfNeighbours() {
+        sheet.sentence("Terms", "A FORM: POLYS c0, c1, c2, c3");
+        Loop x = powersOfTurns(16);
+        int a = x.input();
+        int b = x.input();
+        int c = x.input();
+        int one = x.op(SUM, x.op(SUM, a, b), x.op(SUM, c, 1));
+        int third = x.op(PRODUCT, x.op(PRODUCT, one, one), one);
+        int sixth = x.op(PRODUCT, third, third);
+        int late = x.carried(0);
+        int full = x.op(PRODUCT, late, sixth);
+        int seven = x.number(7);
+        int same = x.op(SUM, full, 0);
+        int eight = x.number(8);
+        // What late HANGS ON comes behind it all, so that full gets its FORM behind its neighbour.
+        x.next(late, x.op(SUM, 5, 0));
+        for (int round = 0; round < 3; round++) {
+            sheet.row("84 in c3, and the NUMBERS behind", "2 3 84 7 8", x.form(full, 0), x.form(full, 1),
+                    x.poly(full, 3, NONE, 0), x.told(seven, 0, 0, 0, 0), x.told(eight, 0, 0, 0, 0));
+            sheet.due("the same one behind other NUMBERS", x.form(same, 4), full);
+            x.number(round);
+        }
     }
 
     /** NAMES: 2: n, 4: n n, 5: n n n. */
